@@ -720,6 +720,10 @@ public final class ValueMill {
             return how[name] == FOR_NAME && what[name] == name;
         }
 
+        private int nameFor(int name) {
+            return how[name] == FOR_NAME ? what[name] : NONE;
+        }
+
         private boolean keepsPhi(int block, int t) {
             return isIn(lives.phis[block], t) && isItself(phiName(block, t));
         }
@@ -867,6 +871,7 @@ public final class ValueMill {
         private final int[] home = new int[VALUES];
         private final long[] cost = new long[VALUES];
         private final int[] current = new int[TEMPS];
+        private final int[] holder = new int[MOST_REGISTERS];
         private final int[] liveBehind = new int[OPS];
         private int firstSlot;
         private int scratch;
@@ -961,7 +966,7 @@ public final class ValueMill {
 
         private void giveHomesToPhis(int block) {
             for (int t = 0; t < TEMPS; t++) {
-                current[t] = names.nameBefore(block, t);
+                current[t] = stands.nameFor(names.nameBefore(block, t));
             }
             for (int t = 0; t < TEMPS; t++) {
                 if (stands.keepsPhi(block, t)) {
@@ -983,55 +988,56 @@ public final class ValueMill {
             if (!program.makesValue(at)) {
                 return;
             }
-            current[program.d[at]] = madeName(at);
+            current[program.d[at]] = stands.nameFor(madeName(at));
             if (stands.keepsOperation(at)) {
                 giveHome(madeName(at), live);
             }
         }
 
         private void giveHome(int name, int live) {
-            home[name] = freeRegister(live);
-            if (home[name] != NONE) {
+            findHolders(live);
+            int register = registerFor(name);
+            if (register == NONE) {
+                putInSlot(name);
                 return;
             }
-            usesSlots = true;
-            int cheapest = cheapestInRegister(name, live);
-            home[name] = home[cheapest];
-            home[cheapest] = FIRST_SLOT + cheapest;
+            if (holder[register] != NONE) {
+                putInSlot(holder[register]);
+            }
+            home[name] = register;
         }
 
-        private int freeRegister(int live) {
-            int taken = 0;
+        private void findHolders(int live) {
+            Arrays.fill(holder, NONE);
             for (int t = 0; t < TEMPS; t++) {
-                if (isIn(live, t) && isInRegister(current[t])) {
-                    taken |= 1 << home[stands.what[current[t]]];
+                if (isIn(live, t) && current[t] != NONE) {
+                    int cell = home[current[t]];
+                    if (cell >= 0 && cell < MOST_REGISTERS) {
+                        holder[cell] = current[t];
+                    }
                 }
             }
+        }
+
+        /** A free register, or that of the name that costs least in a slot, if that is not the new one. */
+        private int registerFor(int name) {
+            int chosen = NONE;
+            long least = cost[name];
             for (int register = 0; register < shared; register++) {
-                if (!isIn(taken, register)) {
+                if (holder[register] == NONE) {
                     return register;
                 }
-            }
-            return NONE;
-        }
-
-        private int cheapestInRegister(int name, int live) {
-            int cheapest = name;
-            for (int t = 0; t < TEMPS; t++) {
-                if (isIn(live, t) && isInRegister(current[t])) {
-                    int other = stands.what[current[t]];
-                    cheapest = cost[other] < cost[cheapest] ? other : cheapest;
+                if (cost[holder[register]] < least) {
+                    least = cost[holder[register]];
+                    chosen = register;
                 }
             }
-            return cheapest;
+            return chosen;
         }
 
-        private boolean isInRegister(int name) {
-            if (stands.isNumber(name)) {
-                return false;
-            }
-            int cell = home[stands.what[name]];
-            return cell >= 0 && cell < FIRST_SLOT;
+        private void putInSlot(int name) {
+            home[name] = FIRST_SLOT + name;
+            usesSlots = true;
         }
     }
 

@@ -1,0 +1,871 @@
+/** One method for each promise of the document: ordinary inputs, the edges it names, wrong inputs. */
+public final class PromisesTest {
+    private static final int LEAST = Integer.MIN_VALUE;
+    private static final int MOST = Integer.MAX_VALUE;
+    private static final int NONE = ValueMill.NONE;
+
+    private final Expect e = new Expect();
+
+    public static void main(String[] args) {
+        PromisesTest test = new PromisesTest();
+        test.promise1NewObject();
+        test.promise2Block();
+        test.promise3OpTaken();
+        test.promise3OpRefused();
+        test.promise3OpTwelve();
+        test.promise3OpKinds();
+        test.promise4Jump();
+        test.promise5Branch();
+        test.promise6Ret();
+        test.promise7Memory();
+        test.promise8RunRefused();
+        test.promise8RunEndings();
+        test.promise8RunFuel();
+        test.promise8RunSwaps();
+        test.promise8RunAfterChanges();
+        test.promise9Value();
+        test.promise10Entered();
+        test.promise11Word();
+        test.promise12Calls();
+        test.promise13Call();
+        test.promise14Order();
+        test.promise15Nearest();
+        test.promise16Frontier();
+        test.promise17Live();
+        test.promise18Phi();
+        test.promise19Depth();
+        test.e.finish();
+    }
+
+    private static ValueMill withBlocks(int count) {
+        ValueMill x = new ValueMill();
+        for (int i = 0; i < count; i++) {
+            x.block();
+        }
+        return x;
+    }
+
+    /** A run at every stage and with every number of registers must end so, and return so. */
+    private void everyRun(String what, ValueMill x, int fuel, int ending, int value) {
+        for (int stage = 0; stage <= 3; stage++) {
+            for (int registers = 2; registers <= 8; registers++) {
+                String run = what + " at stage " + stage + " with " + registers;
+                e.due(run, x.run(stage, registers, fuel), ending);
+                e.due(run + ": value()", x.value(), value);
+            }
+        }
+    }
+
+    private void promise1NewObject() {
+        ValueMill x = new ValueMill();
+        e.due("NONE", ValueMill.NONE, -1);
+        e.due("new: run", x.run(0, 2, 10), NONE);
+        e.due("new: order", x.order(0), NONE);
+        e.due("new: nearest", x.nearest(0), NONE);
+        e.due("new: depth", x.depth(0), NONE);
+        e.due("new: frontier", x.frontier(0, 0), false);
+        e.due("new: live", x.live(0, 0), false);
+        e.due("new: phi", x.phi(0, 0), false);
+        e.due("new: op", x.op(0, 0, 0, 0, 0), false);
+        e.due("new: jump", x.jump(0, 0), false);
+        e.due("new: branch", x.branch(0, 0, 0, 0), false);
+        e.due("new: ret", x.ret(0, 0), false);
+        e.due("new: value", x.value(), 0);
+        e.due("new: entered", x.entered(), 0);
+        e.due("new: calls", x.calls(), 0);
+        e.due("new: first block", x.block(), 0);
+        everyRun("an empty block returns temporary 0", x, 1, 0, 0);
+        for (int i = 0; i < 32; i++) {
+            e.due("new: word " + i, x.word(i), 0);
+        }
+        ValueMill y = new ValueMill();
+        e.due("objects are apart", y.run(0, 2, 1), NONE);
+    }
+
+    private void promise2Block() {
+        ValueMill x = new ValueMill();
+        for (int i = 0; i < 10; i++) {
+            e.due("block " + i + " is not yet there", x.ret(i, 0), false);
+            e.due("block()", x.block(), i);
+            e.due("block " + i + " is there", x.ret(i, 0), true);
+        }
+        e.due("an 11th block", x.block(), NONE);
+        e.due("a 12th block", x.block(), NONE);
+        e.due("block 10 is not there", x.ret(10, 0), false);
+    }
+
+    private void promise3OpTaken() {
+        for (int kind = 0; kind <= 18; kind++) {
+            ValueMill x = withBlocks(2);
+            int d = kind == 17 ? 0 : 9;
+            int b = kind == 0 || kind == 1 || kind == 16 ? 0 : 9;
+            e.due("op of kind " + kind, x.op(1, kind, d, 9, b), true);
+            e.due("op of kind " + kind + " with 0s", x.op(0, kind, 0, 0, 0), true);
+        }
+        ValueMill x = withBlocks(1);
+        e.due("the least number", x.op(0, 0, 1, LEAST, 0), true);
+        e.due("the most number", x.op(0, 0, 1, MOST, 0), true);
+        x.ret(0, 1);
+        everyRun("the last number", x, 1, 0, MOST);
+    }
+
+    private void promise3OpRefused() {
+        for (int kind = 0; kind <= 18; kind++) {
+            ValueMill x = withBlocks(2);
+            int d = kind == 17 ? 0 : 1;
+            int b = kind == 0 || kind == 1 || kind == 16 ? 0 : 1;
+            String op = "op of kind " + kind;
+            for (int wrong : new int[] {-1, 10, LEAST, MOST}) {
+                e.due(op + " with d " + wrong, x.op(0, kind, wrong, 1, b), false);
+                e.due(op + " with a " + wrong, x.op(0, kind, d, wrong, b), kind == 0);
+            }
+            e.due(op + " with d 9", x.op(0, kind, 9, 1, b), kind != 17);
+            for (int wrong : new int[] {-1, 10, LEAST, MOST, b == 0 ? 1 : 11}) {
+                e.due(op + " with b " + wrong, x.op(0, kind, d, 1, wrong), false);
+            }
+            for (int wrong : new int[] {-1, 2, 10, LEAST, MOST}) {
+                e.due(op + " in block " + wrong, x.op(wrong, kind, d, 1, b), false);
+            }
+        }
+        ValueMill x = withBlocks(1);
+        for (int kind : new int[] {-1, 19, 20, LEAST, MOST}) {
+            e.due("kind " + kind, x.op(0, kind, 0, 0, 0), false);
+        }
+        x.op(0, 0, 0, 5, 0);
+        x.op(0, 0, 0, 6, 1);
+        x.op(0, 19, 0, 0, 0);
+        everyRun("what was refused is not there", x, 1, 0, 5);
+    }
+
+    private void promise3OpTwelve() {
+        ValueMill x = withBlocks(3);
+        x.op(1, 0, 1, 1, 0);
+        for (int i = 0; i < 11; i++) {
+            e.due("operation " + i, x.op(1, 2, 0, 0, 1), true);
+        }
+        e.due("a 13th operation", x.op(1, 2, 0, 0, 1), false);
+        e.due("another block has room", x.op(2, 0, 0, 4, 0), true);
+        x.jump(0, 1);
+        everyRun("eleven times one more", x, 5, 0, 11);
+    }
+
+    /** Each kind, told so that stage 2 can reckon it before, and so that it cannot. */
+    private void promise3OpKinds() {
+        kind(1, 7, 0, 7);
+        kind(2, MOST, 1, LEAST);
+        kind(2, -4, 9, 5);
+        kind(3, LEAST, 1, MOST);
+        kind(3, 3, 10, -7);
+        kind(4, 65536, 65536, 0);
+        kind(4, 123456789, 1000, -1097262584);
+        kind(5, 7, 2, 3);
+        kind(5, -7, 2, -3);
+        kind(5, 7, -2, -3);
+        kind(5, LEAST, 1, LEAST);
+        kind(5, LEAST + 1, -1, MOST);
+        kind(6, 7, 2, 1);
+        kind(6, -7, 2, -1);
+        kind(6, 7, -2, 1);
+        kind(6, LEAST, 2, 0);
+        kind(7, 12, 10, 8);
+        kind(8, 12, 10, 14);
+        kind(9, 12, 10, 6);
+        kind(9, -1, 10, -11);
+        kind(10, 1, 31, LEAST);
+        kind(10, 1, 33, 2);
+        kind(10, 3, -1, LEAST);
+        kind(11, -8, 1, -4);
+        kind(11, LEAST, 31, -1);
+        kind(11, 8, 34, 2);
+        kind(12, -8, 1, 2147483644);
+        kind(12, LEAST, 31, 1);
+        kind(12, -1, 32, -1);
+        kind(13, 5, 5, 1);
+        kind(13, 5, 6, 0);
+        kind(14, -1, 0, 1);
+        kind(14, 0, 0, 0);
+        kind(14, MOST, LEAST, 0);
+        kind(15, -1, 0, 0);
+        kind(15, 0, -1, 1);
+        kind(15, MOST, LEAST, 1);
+        kind(15, 3, 3, 0);
+        ends(5, 7, 0);
+        ends(5, LEAST, -1);
+        ends(6, 7, 0);
+        ends(6, LEAST, -1);
+        ends(6, 0, 0);
+    }
+
+    private void kind(int kind, int a, int b, int made) {
+        String what = "kind " + kind + " of " + a + " and " + b;
+        everyRun(what, ofNumbers(kind, a, b), 2, 0, made);
+        everyRun(what + " from memory", ofWords(kind, a, b), 2, 0, made);
+    }
+
+    private void ends(int kind, int a, int b) {
+        String what = "kind " + kind + " of " + a + " and " + b;
+        everyRun(what, ofNumbers(kind, a, b), 2, 1, 0);
+        everyRun(what + " from memory", ofWords(kind, a, b), 2, 1, 0);
+    }
+
+    private static ValueMill ofNumbers(int kind, int a, int b) {
+        ValueMill x = withBlocks(1);
+        x.op(0, 0, 3, a, 0);
+        x.op(0, 0, 4, b, 0);
+        x.op(0, kind, 3, 3, kind == 1 ? 0 : 4);
+        x.ret(0, 3);
+        return x;
+    }
+
+    private static ValueMill ofWords(int kind, int a, int b) {
+        ValueMill x = withBlocks(1);
+        x.memory(0, a);
+        x.memory(31, b);
+        x.op(0, 0, 5, 31, 0);
+        x.op(0, 16, 3, 0, 0);
+        x.op(0, 16, 4, 5, 0);
+        x.op(0, kind, 4, 3, kind == 1 ? 0 : 4);
+        x.ret(0, 4);
+        return x;
+    }
+
+    private void promise4Jump() {
+        ValueMill x = withBlocks(3);
+        for (int wrong : new int[] {-1, 3, 10, LEAST, MOST}) {
+            e.due("jump from " + wrong, x.jump(wrong, 1), false);
+            e.due("jump to " + wrong, x.jump(0, wrong), false);
+        }
+        x.op(0, 0, 0, 1, 0);
+        x.op(1, 0, 0, 2, 0);
+        x.op(2, 0, 0, 3, 0);
+        everyRun("refused jumps leave the end", x, 9, 0, 1);
+        e.due("jump to 2", x.jump(0, 2), true);
+        everyRun("goes to 2", x, 9, 0, 3);
+        e.due("jump to 1", x.jump(0, 1), true);
+        everyRun("goes to 1", x, 9, 0, 2);
+        e.due("jump to itself", x.jump(1, 1), true);
+        everyRun("goes round", x, 9, 3, 0);
+        e.due("entered", x.entered(), 9);
+        e.due("jump to the entry", x.jump(1, 0), true);
+        everyRun("goes round by the entry", x, 500, 3, 0);
+    }
+
+    private void promise5Branch() {
+        ValueMill x = withBlocks(3);
+        for (int wrong : new int[] {-1, 3, 10, LEAST, MOST}) {
+            e.due("branch from " + wrong, x.branch(wrong, 1, 1, 1), false);
+            e.due("branch yes " + wrong, x.branch(0, 1, wrong, 1), false);
+            e.due("branch no " + wrong, x.branch(0, 1, 1, wrong), false);
+        }
+        for (int wrong : new int[] {-1, 10, LEAST, MOST}) {
+            e.due("branch by " + wrong, x.branch(0, wrong, 1, 2), false);
+        }
+        x.op(0, 16, 9, 0, 0);
+        x.op(1, 0, 0, 11, 0);
+        x.op(2, 0, 0, 12, 0);
+        everyRun("refused branches leave the end", x, 9, 0, 0);
+        e.due("entered", x.entered(), 1);
+        e.due("branch", x.branch(0, 9, 1, 2), true);
+        everyRun("0 goes to the second", x, 9, 0, 12);
+        for (int other : new int[] {1, -1, LEAST, 256}) {
+            x.memory(0, other);
+            everyRun(other + " goes to the first", x, 9, 0, 11);
+        }
+        e.due("branch to one block", x.branch(0, 9, 2, 2), true);
+        everyRun("both go to one", x, 9, 0, 12);
+    }
+
+    private void promise6Ret() {
+        ValueMill x = withBlocks(2);
+        x.op(0, 0, 0, 3, 0);
+        x.op(0, 0, 9, 4, 0);
+        everyRun("at first temporary 0 is returned", x, 9, 0, 3);
+        for (int wrong : new int[] {-1, 10, LEAST, MOST}) {
+            e.due("ret of " + wrong, x.ret(0, wrong), false);
+            e.due("ret in " + wrong, x.ret(wrong, 9), false);
+        }
+        e.due("ret in a block that is not there", x.ret(2, 9), false);
+        everyRun("refused rets leave the end", x, 9, 0, 3);
+        e.due("ret", x.ret(0, 9), true);
+        everyRun("temporary 9", x, 9, 0, 4);
+        x.jump(0, 1);
+        e.due("ret instead of the jump", x.ret(0, 0), true);
+        everyRun("temporary 0 again", x, 9, 0, 3);
+        e.due("entered", x.entered(), 1);
+        e.due("the edge is gone", x.order(1), NONE);
+    }
+
+    private void promise7Memory() {
+        ValueMill x = withBlocks(1);
+        for (int wrong : new int[] {-1, 32, LEAST, MOST}) {
+            e.due("memory " + wrong, x.memory(wrong, 1), false);
+        }
+        for (int i = 0; i < 32; i++) {
+            e.due("memory " + i, x.memory(i, i * i - 100), true);
+        }
+        e.due("no run yet", x.word(3), 0);
+        x.op(0, 0, 1, 7, 0);
+        x.op(0, 16, 0, 1, 0);
+        x.op(0, 17, 0, 1, 1);
+        everyRun("word 7 as told", x, 1, 0, -51);
+        everyRun("what a run wrote is not told to the next", x, 1, 0, -51);
+        for (int i = 0; i < 32; i++) {
+            e.due("word " + i, x.word(i), i == 7 ? 7 : i * i - 100);
+        }
+        e.due("told anew", x.memory(7, LEAST), true);
+        everyRun("word 7 as told anew", x, 1, 0, LEAST);
+    }
+
+    private void promise8RunRefused() {
+        ValueMill x = withBlocks(1);
+        x.op(0, 0, 1, 5, 0);
+        x.op(0, 18, 2, 1, 3);
+        x.op(0, 17, 0, 1, 1);
+        x.ret(0, 2);
+        e.due("a run", x.run(0, 2, 9), 0);
+        int[][] wrong = {
+            {-1, 2, 9}, {4, 2, 9}, {LEAST, 2, 9}, {MOST, 2, 9},
+            {0, 1, 9}, {0, 9, 9}, {1, 1, 9}, {2, 9, 9}, {3, 1, 9}, {3, 9, 9}, {3, LEAST, 9}, {3, MOST, 9},
+            {0, 2, -1}, {0, 2, 501}, {3, 2, LEAST}, {3, 2, MOST},
+        };
+        x.memory(5, 77);
+        x.op(0, 0, 2, 1, 0);
+        for (int[] args : wrong) {
+            e.due("run(" + args[0] + ", " + args[1] + ", " + args[2] + ")", x.run(args[0], args[1], args[2]), NONE);
+            e.due("value stays", x.value(), 158);
+            e.due("entered stays", x.entered(), 1);
+            e.due("calls stay", x.calls(), 1);
+            e.due("call stays", x.call(0, 2), 158);
+            e.due("word stays", x.word(5), 5);
+        }
+        everyRun("the widest fuel", x, 500, 0, 1);
+    }
+
+    private void promise8RunEndings() {
+        ValueMill x = withBlocks(2);
+        x.op(0, 0, 1, 31, 0);
+        x.op(0, 0, 2, 9, 0);
+        x.op(0, 17, 0, 2, 1);
+        x.op(0, 18, 3, 2, 4);
+        x.jump(0, 1);
+        x.op(1, 16, 4, 5, 0);
+        x.op(1, 17, 0, 1, 6);
+        x.op(1, 18, 3, 1, 4);
+        x.ret(1, 3);
+        everyRun("returned", x, 2, 0, 31 * 31 + 4 + 7);
+        for (int address : new int[] {-1, 32, LEAST, MOST}) {
+            ending(5, address, 2, 31);
+            ending(6, address, 2, 0);
+        }
+        ValueMill y = withBlocks(1);
+        y.op(0, 18, 1, 1, 0);
+        y.op(0, 5, 2, 1, 0);
+        y.op(0, 18, 1, 1, 0);
+        everyRun("unused division ends all the same", y, 9, 1, 0);
+        e.due("the call before it", y.calls(), 1);
+        ValueMill z = withBlocks(1);
+        z.op(0, 0, 1, 32, 0);
+        z.op(0, 16, 1, 1, 0);
+        z.op(0, 0, 1, 4, 0);
+        z.ret(0, 1);
+        everyRun("an unused word that there is not ends all the same", z, 9, 2, 0);
+    }
+
+    /** Temporary 5 is read from, 6 written to, in a second block; the first wrote 9 to word 31. */
+    private void ending(int temp, int address, int ending, int lastWord) {
+        ValueMill x = withBlocks(2);
+        x.op(0, 0, temp, address, 0);
+        x.op(0, 0, 1, 31, 0);
+        x.op(0, 17, 0, 1, 1);
+        x.op(0, 18, 3, 1, 4);
+        x.jump(0, 1);
+        x.op(1, 16, 4, 5, 0);
+        x.op(1, 17, 0, 5, 1);
+        x.op(1, 17, 0, 1, 6);
+        x.op(1, 18, 3, 1, 4);
+        everyRun("address " + address + " in " + temp, x, 9, ending, 0);
+        e.due("entered before " + address, x.entered(), 2);
+        e.due("calls before " + address, x.calls(), 1);
+        e.due("word 31 before " + address, x.word(31), lastWord);
+    }
+
+    private void promise8RunFuel() {
+        ValueMill x = countdown(4);
+        everyRun("no fuel", x, 0, 3, 0);
+        e.due("none entered", x.entered(), 0);
+        e.due("no call", x.calls(), 0);
+        everyRun("one too few", x, 10, 3, 0);
+        e.due("entered with 10", x.entered(), 10);
+        e.due("calls with 10", x.calls(), 4);
+        everyRun("just enough", x, 11, 0, 4);
+        e.due("entered with 11", x.entered(), 11);
+        everyRun("more than enough", x, 12, 0, 4);
+        e.due("entered with 12", x.entered(), 11);
+    }
+
+    /** 0: sets up; 1: asks; 2: one round with a call; 3: returns the rounds. Enters 3 + 2 * rounds. */
+    private static ValueMill countdown(int rounds) {
+        ValueMill x = withBlocks(4);
+        x.op(0, 0, 1, rounds, 0);
+        x.op(0, 0, 2, 1, 0);
+        x.jump(0, 1);
+        x.branch(1, 1, 2, 3);
+        x.op(2, 3, 1, 1, 2);
+        x.op(2, 18, 3, 1, 5);
+        x.op(2, 2, 4, 4, 2);
+        x.jump(2, 1);
+        x.ret(3, 4);
+        return x;
+    }
+
+    /** Values that change places on the way round: what edges carry must be carried at one time. */
+    private void promise8RunSwaps() {
+        ValueMill x = withBlocks(3);
+        for (int t = 0; t < 8; t++) {
+            x.op(0, 0, t, t + 1, 0);
+        }
+        x.op(0, 0, 8, 5, 0);
+        x.jump(0, 1);
+        x.op(1, 1, 9, 0, 0);
+        for (int t = 0; t < 7; t++) {
+            x.op(1, 1, t, t + 1, 0);
+        }
+        x.op(1, 1, 7, 9, 0);
+        x.op(1, 0, 9, 1, 0);
+        x.op(1, 3, 8, 8, 9);
+        x.branch(1, 8, 1, 2);
+        x.op(2, 0, 9, 10, 0);
+        for (int t = 1; t < 8; t++) {
+            x.op(2, 4, 0, 0, 9);
+            if (t < 5) {
+                x.op(2, 2, 0, 0, t);
+            }
+        }
+        everyRun("a ring of eight", x, 20, 0, 67812000);
+        ValueMill y = withBlocks(3);
+        y.op(0, 0, 0, 1, 0);
+        y.op(0, 0, 1, 2, 0);
+        y.op(0, 0, 2, 3, 0);
+        y.op(0, 0, 4, 1, 0);
+        y.jump(0, 1);
+        y.op(1, 1, 3, 0, 0);
+        y.op(1, 1, 0, 1, 0);
+        y.op(1, 1, 1, 3, 0);
+        y.op(1, 3, 2, 2, 4);
+        y.branch(1, 2, 1, 2);
+        y.op(2, 3, 0, 0, 1);
+        everyRun("three swaps", y, 20, 0, 1);
+    }
+
+    private void promise8RunAfterChanges() {
+        ValueMill x = withBlocks(1);
+        x.op(0, 0, 0, 3, 0);
+        for (int stage = 0; stage <= 3; stage++) {
+            x.run(stage, 4, 9);
+            x.op(0, 2, 0, 0, 0);
+            e.due("a new operation at stage " + stage, x.run(stage, 4, 9), 0);
+            e.due("is done", x.value(), 6 << stage);
+        }
+        e.due("stages in turn", x.run(1, 4, 9), 0);
+        x.ret(0, 1);
+        e.due("a new end", x.run(1, 4, 9), 0);
+        e.due("returns temporary 1", x.value(), 0);
+        x.block();
+        x.jump(0, 1);
+        e.due("a new block", x.run(1, 4, 9), 0);
+        e.due("is entered", x.entered(), 2);
+        e.due("and returns", x.value(), 48);
+        x.branch(0, 1, 0, 1);
+        e.due("a branch", x.run(1, 4, 9), 0);
+        e.due("goes the second way", x.entered(), 2);
+        e.due("all at once", x.order(1), 1);
+    }
+
+    private void promise9Value() {
+        ValueMill x = withBlocks(2);
+        e.due("before a run", x.value(), 0);
+        x.op(0, 0, 1, -9, 0);
+        x.ret(0, 1);
+        x.run(3, 2, 1);
+        e.due("what was returned", x.value(), -9);
+        x.ret(0, 2);
+        x.op(0, 5, 1, 1, 3);
+        e.due("stays", x.value(), -9);
+        x.run(3, 2, 1);
+        e.due("after DIVISION", x.value(), 0);
+        ValueMill y = countdown(2);
+        y.run(1, 2, 7);
+        e.due("returned", y.value(), 2);
+        y.run(1, 2, 6);
+        e.due("after FUEL", y.value(), 0);
+        y.run(1, 2, 7);
+        y.op(3, 16, 0, 2, 0);
+        y.op(0, 0, 2, -1, 0);
+        y.jump(0, 3);
+        y.run(2, 2, 6);
+        e.due("after ADDRESS", y.value(), 0);
+    }
+
+    private void promise10Entered() {
+        ValueMill x = countdown(3);
+        e.due("before a run", x.entered(), 0);
+        for (int stage = 0; stage <= 3; stage++) {
+            for (int fuel = 0; fuel <= 12; fuel++) {
+                x.run(stage, 2, fuel);
+                e.due("entered at " + stage + " with " + fuel, x.entered(), Math.min(fuel, 9));
+            }
+        }
+        x.jump(3, 3);
+        x.run(2, 2, 500);
+        e.due("entered with the widest fuel", x.entered(), 500);
+        x.block();
+        x.op(0, 0, 0, 1, 1);
+        e.due("stays", x.entered(), 500);
+    }
+
+    private void promise11Word() {
+        ValueMill x = withBlocks(1);
+        x.memory(4, 44);
+        e.due("before a run", x.word(4), 0);
+        x.op(0, 0, 1, 4, 0);
+        x.op(0, 0, 2, -6, 0);
+        x.op(0, 17, 0, 2, 0);
+        for (int stage = 0; stage <= 3; stage++) {
+            x.run(stage, 2, 1);
+            e.due("as told", x.word(4), 44);
+            e.due("as written", x.word(0), -6);
+            e.due("not touched", x.word(31), 0);
+        }
+        x.memory(4, 45);
+        x.memory(0, 1);
+        e.due("stays as told", x.word(4), 44);
+        e.due("stays as written", x.word(0), -6);
+        for (int wrong : new int[] {-1, 32, LEAST, MOST}) {
+            e.due("word " + wrong, x.word(wrong), 0);
+        }
+        x.run(0, 2, 0);
+        e.due("as told anew, with no fuel", x.word(4), 45);
+        e.due("not written, with no fuel", x.word(0), 1);
+    }
+
+    private void promise12Calls() {
+        ValueMill x = withBlocks(1);
+        e.due("before a run", x.calls(), 0);
+        for (int i = 0; i < 12; i++) {
+            x.op(0, 18, 0, 0, i % 10);
+        }
+        x.jump(0, 0);
+        for (int stage = 0; stage <= 3; stage++) {
+            x.run(stage, 2, 500);
+            e.due("calls at " + stage, x.calls(), 6000);
+            x.run(stage, 2, 1);
+            e.due("calls at " + stage, x.calls(), 12);
+            x.run(stage, 2, 0);
+            e.due("calls at " + stage, x.calls(), 0);
+        }
+    }
+
+    private void promise13Call() {
+        ValueMill x = withBlocks(2);
+        e.due("before a run", x.call(0, 0), 0);
+        x.op(0, 0, 1, MOST, 0);
+        x.op(0, 18, 2, 1, 9);
+        x.op(0, 18, 2, 2, 0);
+        x.jump(0, 1);
+        for (int i = 0; i < 9; i++) {
+            x.op(1, 18, 2, 1, i);
+        }
+        x.jump(1, 1);
+        for (int stage = 0; stage <= 3; stage++) {
+            x.run(stage, 3, 100);
+            e.due("calls", x.calls(), 2 + 9 * 99);
+            e.due("number", x.call(0, 0), 9);
+            e.due("with", x.call(0, 1), MOST);
+            e.due("made", x.call(0, 2), MOST * 31 + 9);
+            e.due("second number", x.call(1, 0), 0);
+            e.due("second with", x.call(1, 1), MOST * 31 + 9);
+            e.due("second made", x.call(1, 2), (MOST * 31 + 9) * 31 + 7);
+            e.due("the last one's number", x.call(199, 0), 197 % 9);
+            e.due("the last one's with", x.call(199, 1), MOST);
+            e.due("the last one's made", x.call(199, 2), MOST * 31 + 197 % 9 + 7 * 199);
+            for (int k : new int[] {-1, 200, 201, 892, LEAST, MOST}) {
+                e.due("call " + k, x.call(k, 1), 0);
+            }
+            for (int what : new int[] {-1, 3, LEAST, MOST}) {
+                e.due("what " + what, x.call(0, what), 0);
+                e.due("what " + what, x.call(1, what), 0);
+            }
+        }
+        x.run(0, 2, 1);
+        e.due("the second of two", x.call(1, 1), MOST * 31 + 9);
+        e.due("no third of two", x.call(2, 1), 0);
+    }
+
+    private void order(String what, ValueMill x, int... due) {
+        for (int k = 0; k < due.length; k++) {
+            e.due(what + ": order(" + k + ")", x.order(k), due[k]);
+        }
+        e.due(what + ": order ends", x.order(due.length), NONE);
+        e.due(what + ": order(-1)", x.order(-1), NONE);
+        e.due(what + ": order(LEAST)", x.order(LEAST), NONE);
+        e.due(what + ": order(MOST)", x.order(MOST), NONE);
+    }
+
+    /** 0 to 1 or 2, both to 3; 4 is dead and goes to 3. */
+    private static ValueMill diamond() {
+        ValueMill x = withBlocks(5);
+        x.branch(0, 0, 1, 2);
+        x.jump(1, 3);
+        x.jump(2, 3);
+        x.jump(4, 3);
+        return x;
+    }
+
+    /** 0 - 1 - 2 - 3, 3 back to 2 or on to 4, 4 back to 1 or on to 5. */
+    private static ValueMill nested() {
+        ValueMill x = withBlocks(6);
+        x.jump(0, 1);
+        x.jump(1, 2);
+        x.jump(2, 3);
+        x.branch(3, 0, 2, 4);
+        x.branch(4, 0, 1, 5);
+        return x;
+    }
+
+    /** 0 to 1 or 2, which go to one another: no head. 2 also goes to 3. */
+    private static ValueMill crossed() {
+        ValueMill x = withBlocks(4);
+        x.branch(0, 0, 1, 2);
+        x.jump(1, 2);
+        x.branch(2, 0, 1, 3);
+        return x;
+    }
+
+    private void promise14Order() {
+        order("one block", withBlocks(3), 0);
+        order("diamond", diamond(), 0, 2, 1, 3);
+        ValueMill x = diamond();
+        x.branch(0, 0, 2, 1);
+        order("diamond, the other edge first", x, 0, 1, 2, 3);
+        order("nested", nested(), 0, 1, 2, 3, 4, 5);
+        order("crossed", crossed(), 0, 1, 2, 3);
+        ValueMill y = withBlocks(10);
+        for (int block = 0; block < 9; block++) {
+            y.branch(block, 0, block + 1, 0);
+        }
+        order("a row of ten", y, 0, 1, 2, 3, 4, 5, 6, 7, 8, 9);
+        y.jump(0, 9);
+        y.jump(9, 5);
+        order("a row with a skip", y, 0, 9, 5, 6, 7, 8);
+        y.ret(0, 0);
+        order("cut", y, 0);
+    }
+
+    private void nearest(String what, ValueMill x, int... due) {
+        for (int block = 0; block < due.length; block++) {
+            e.due(what + ": nearest(" + block + ")", x.nearest(block), due[block]);
+        }
+        for (int wrong : new int[] {-1, 10, LEAST, MOST}) {
+            e.due(what + ": nearest(" + wrong + ")", x.nearest(wrong), NONE);
+        }
+    }
+
+    private void promise15Nearest() {
+        nearest("dead blocks", withBlocks(3), NONE, NONE, NONE, NONE);
+        nearest("diamond", diamond(), NONE, 0, 0, 0, NONE, NONE);
+        nearest("nested", nested(), NONE, 0, 1, 2, 3, 4, NONE);
+        nearest("crossed", crossed(), NONE, 0, 0, 2, NONE);
+        ValueMill x = nested();
+        x.jump(5, 0);
+        nearest("round the entry", x, NONE, 0, 1, 2, 3, 4, NONE);
+        ValueMill y = withBlocks(2);
+        y.branch(0, 3, 1, 1);
+        nearest("both edges to one", y, NONE, 0, NONE);
+    }
+
+    private void frontier(String what, ValueMill x, int block, int... due) {
+        for (int c = -1; c <= 10; c++) {
+            boolean in = false;
+            for (int d : due) {
+                in |= d == c;
+            }
+            e.due(what + ": frontier(" + block + ", " + c + ")", x.frontier(block, c), in);
+        }
+        e.due(what + ": frontier(" + block + ", LEAST)", x.frontier(block, LEAST), false);
+        e.due(what + ": frontier(MOST, " + block + ")", x.frontier(MOST, block), false);
+    }
+
+    private void promise16Frontier() {
+        ValueMill x = diamond();
+        frontier("diamond", x, 0);
+        frontier("diamond", x, 1, 3);
+        frontier("diamond", x, 2, 3);
+        frontier("diamond", x, 3);
+        frontier("diamond, dead", x, 4);
+        frontier("diamond, not there", x, 5);
+        frontier("diamond, not there", x, -1);
+        ValueMill y = nested();
+        frontier("nested", y, 0);
+        frontier("nested", y, 1, 1);
+        frontier("nested", y, 2, 1, 2);
+        frontier("nested", y, 3, 1, 2);
+        frontier("nested", y, 4, 1);
+        frontier("nested", y, 5);
+        y.jump(5, 0);
+        frontier("round the entry", y, 0, 0);
+        frontier("round the entry", y, 3, 0, 1, 2);
+        ValueMill z = crossed();
+        frontier("crossed", z, 1, 2);
+        frontier("crossed", z, 2, 1);
+        z.jump(2, 2);
+        frontier("crossed, itself", z, 2, 2);
+    }
+
+    private void live(String what, ValueMill x, int t, int... due) {
+        for (int block = -1; block <= 10; block++) {
+            boolean in = false;
+            for (int d : due) {
+                in |= d == block;
+            }
+            e.due(what + ": live(" + block + ", " + t + ")", x.live(block, t), in);
+        }
+    }
+
+    private void promise17Live() {
+        ValueMill x = diamond();
+        x.op(1, 0, 5, 1, 0);
+        x.ret(3, 5);
+        live("set on one side", x, 5, 0, 2, 3, 4);
+        live("asked at the branch", x, 0, 0);
+        x.op(0, 2, 5, 5, 6);
+        live("used before it becomes", x, 5, 0, 2, 3, 4);
+        live("the second one", x, 6, 0);
+        x.op(4, 1, 5, 7, 0);
+        live("set in a dead one", x, 5, 0, 2, 3);
+        live("used in a dead one", x, 7, 4);
+        for (int wrong : new int[] {-1, 10, LEAST, MOST}) {
+            e.due("live of " + wrong, x.live(0, wrong), false);
+            e.due("live in " + wrong, x.live(wrong, 0), false);
+        }
+        ValueMill y = nested();
+        y.op(1, 18, 3, 2, 7);
+        y.op(4, 17, 0, 3, 4);
+        y.op(0, 16, 3, 8, 0);
+        live("a call's number is none", y, 7);
+        live("a call's a", y, 2, 0, 1, 2, 3, 4);
+        live("what is written", y, 3, 2, 3, 4);
+        live("where to is written", y, 4, 0, 1, 2, 3, 4);
+        live("where from is read", y, 8, 0);
+        live("a write's d is none", y, 0, 0, 1, 2, 3, 4, 5);
+        ValueMill z = withBlocks(2);
+        z.op(0, 0, 1, 9, 0);
+        z.op(0, 0, 0, 9, 0);
+        z.jump(0, 1);
+        z.ret(1, 0);
+        live("a number is no temporary", z, 9);
+        live("returned", z, 0, 1);
+        z.op(1, 1, 0, 0, 0);
+        live("becomes itself", z, 0, 1);
+        z.jump(1, 0);
+        z.branch(0, 9, 1, 1);
+        live("asked, though both are one", z, 9, 0, 1);
+    }
+
+    private void phi(String what, ValueMill x, int t, int... due) {
+        for (int block = -1; block <= 10; block++) {
+            boolean in = false;
+            for (int d : due) {
+                in |= d == block;
+            }
+            e.due(what + ": phi(" + block + ", " + t + ")", x.phi(block, t), in);
+        }
+    }
+
+    private void promise18Phi() {
+        ValueMill x = diamond();
+        phi("nowhere made", x, 0);
+        x.op(1, 0, 5, 1, 0);
+        phi("made but not live", x, 5);
+        x.ret(3, 5);
+        phi("made on one side", x, 5, 3);
+        phi("returned no more", x, 0);
+        x.op(4, 0, 6, 1, 0);
+        x.op(3, 2, 6, 6, 6);
+        phi("made in a dead one", x, 6);
+        x.op(3, 17, 0, 0, 7);
+        x.op(1, 17, 0, 0, 0);
+        phi("a write makes nothing", x, 0);
+        for (int wrong : new int[] {-1, 10, LEAST, MOST}) {
+            e.due("phi of " + wrong, x.phi(3, wrong), false);
+            e.due("phi in " + wrong, x.phi(wrong, 5), false);
+        }
+        ValueMill y = nested();
+        y.op(3, 2, 1, 1, 2);
+        y.ret(5, 1);
+        phi("made in the inner loop", y, 1, 1, 2);
+        phi("not made in the loops", y, 2);
+        y.jump(5, 0);
+        phi("round the entry, by its own beginning", y, 2, 0);
+        phi("round the entry", y, 1, 0, 1, 2);
+        ValueMill z = withBlocks(4);
+        z.branch(0, 0, 1, 3);
+        z.branch(1, 0, 2, 3);
+        z.jump(2, 3);
+        z.op(2, 0, 4, 1, 0);
+        z.ret(3, 4);
+        phi("through one frontier", z, 4, 3);
+        ValueMill w = withBlocks(6);
+        w.branch(0, 0, 1, 4);
+        w.branch(1, 0, 2, 3);
+        w.jump(2, 3);
+        w.jump(3, 5);
+        w.jump(4, 5);
+        w.op(2, 0, 4, 1, 0);
+        w.ret(5, 4);
+        phi("through a phi's own frontier", w, 4, 3, 5);
+    }
+
+    private void depth(String what, ValueMill x, int... due) {
+        for (int block = 0; block < due.length; block++) {
+            e.due(what + ": depth(" + block + ")", x.depth(block), due[block]);
+        }
+        for (int wrong : new int[] {-1, 10, LEAST, MOST}) {
+            e.due(what + ": depth(" + wrong + ")", x.depth(wrong), NONE);
+        }
+    }
+
+    private void promise19Depth() {
+        depth("diamond", diamond(), 0, 0, 0, 0, NONE, NONE);
+        ValueMill x = nested();
+        depth("nested", x, 0, 1, 2, 2, 1, 0, NONE);
+        x.jump(5, 0);
+        depth("round the entry", x, 1, 2, 3, 3, 2, 1, NONE);
+        depth("crossed has no head", crossed(), 0, 0, 0, 0, NONE);
+        ValueMill y = withBlocks(3);
+        y.branch(0, 0, 1, 2);
+        y.branch(1, 0, 1, 0);
+        depth("two edges back to two heads", y, 1, 2, 0, NONE);
+        ValueMill z = withBlocks(4);
+        z.jump(0, 1);
+        z.branch(1, 0, 2, 3);
+        z.jump(2, 1);
+        z.jump(3, 1);
+        depth("two ways back are one loop", z, 0, 1, 1, 1, NONE);
+        ValueMill w = withBlocks(4);
+        w.branch(0, 0, 1, 2);
+        w.jump(1, 0);
+        w.jump(3, 3);
+        depth("a dead loop", w, 1, 1, 0, NONE, NONE);
+        ValueMill v = withBlocks(10);
+        for (int block = 0; block < 9; block++) {
+            v.branch(block, 0, block + 1, block);
+        }
+        v.branch(9, 0, 0, 9);
+        depth("ten loops in a big one", v, 1, 2, 2, 2, 2, 2, 2, 2, 2, 2);
+        for (int block = 0; block < 9; block++) {
+            v.jump(block, block + 1);
+        }
+        v.jump(9, 0);
+        depth("one big one", v, 1, 1, 1, 1, 1, 1, 1, 1, 1, 1);
+    }
+}
