@@ -65,11 +65,9 @@ public final class ValueMill {
     private static final int SPARE = FIRST_SLOT + VALUES;
     private static final int CELLS = SPARE + 1;
 
-    // The sections of code: the blocks, what is done along each block's two edges, and before the
-    // entry is entered for the first time.
+    // The sections of code: the blocks, then what is done along each block's two edges.
     private static final int FIRST_ROAD = BLOCKS;
-    private static final int START_ROAD = FIRST_ROAD + 2 * BLOCKS;
-    private static final int SECTIONS = START_ROAD + 1;
+    private static final int SECTIONS = FIRST_ROAD + 2 * BLOCKS;
 
     private static final int A_IS_NUMBER = 1;
     private static final int B_IS_NUMBER = 2;
@@ -1045,7 +1043,7 @@ public final class ValueMill {
     private static final class Code {
         // An operation needs at most three moves beside it, an end one; an edge at most ten moves of two
         // operations each, and for at most five rings among them two more each.
-        private static final int MOST = BLOCKS * (OPS * 4 + 1) + (2 * BLOCKS + 1) * 30;
+        private static final int MOST = BLOCKS * (OPS * 4 + 1) + 2 * BLOCKS * 30;
 
         private final int[] from = new int[SECTIONS];
         private final int[] to = new int[SECTIONS];
@@ -1108,10 +1106,6 @@ public final class ValueMill {
             this.code = code;
         }
 
-        private void clear() {
-            count = 0;
-        }
-
         private void add(int newTarget, int newSource, boolean newIsNumber) {
             boolean changesNothing = !newIsNumber && newTarget == newSource;
             if (changesNothing || count == TEMPS) {
@@ -1123,7 +1117,7 @@ public final class ValueMill {
             count++;
         }
 
-        /** A ring is opened at most once for each move that is written, which bounds the turns. */
+        /** Leaves no move. A ring is opened at most once for each move written, which bounds the turns. */
         private void write() {
             for (int turn = 0; turn < 2 * TEMPS && count > 0; turn++) {
                 int ready = firstReady();
@@ -1216,9 +1210,9 @@ public final class ValueMill {
             return (program.takesA(at) ? 0 : A_IS_NUMBER) | (program.takesB(at) ? 0 : B_IS_NUMBER);
         }
 
+        /** The entry's phis need nothing written for the start: they take 0 then, as all cells have. */
         private void writeNamed() {
             code.clear();
-            writeStart();
             for (int k = 0; k < flow.count; k++) {
                 int block = flow.order[k];
                 writeBlock(block);
@@ -1288,18 +1282,7 @@ public final class ValueMill {
             }
         }
 
-        private void writeStart() {
-            moves.clear();
-            for (int t = 0; t < TEMPS; t++) {
-                addMove(0, t, ZERO);
-            }
-            code.begin(START_ROAD);
-            moves.write();
-            code.finish(START_ROAD);
-        }
-
         private void writeRoad(int block, int edge) {
-            moves.clear();
             for (int t = 0; t < TEMPS; t++) {
                 addMove(program.target(block, edge), t, names.along(block, t));
             }
@@ -1333,10 +1316,8 @@ public final class ValueMill {
         private int follow(Code code, Program program, int fuel) {
             begin(program.told);
             int at = 0;
-            int road = START_ROAD;
             for (int left = fuel; left > 0; left--) {
                 blocksEntered++;
-                perform(code, road);
                 int ending = perform(code, at);
                 if (ending != GOES_ON) {
                     return ending;
@@ -1347,7 +1328,7 @@ public final class ValueMill {
                     return RETURNED;
                 }
                 int edge = program.end[at] == BRANCHES && shown == 0 ? 1 : 0;
-                road = roadOf(at, edge);
+                perform(code, roadOf(at, edge));
                 at = program.target(at, edge);
             }
             return FUEL;

@@ -769,6 +769,9 @@ public final class PromisesTest {
         z.jump(1, 0);
         z.branch(0, 9, 1, 1);
         live("asked, though both are one", z, 9, 0, 1);
+        live("nothing of a block to come", z, 0, 1);
+        z.block();
+        live("a new block returns temporary 0", z, 0, 1, 2);
     }
 
     private void phi(String what, ValueMill x, int t, int... due) {

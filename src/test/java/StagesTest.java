@@ -36,11 +36,15 @@ public final class StagesTest {
             test.draw(new Random(seed));
             test.lookAtStage1();
             test.lookAtStage2();
-            for (int registers = 2; registers <= 8; registers++) {
+            for (int registers = 8; registers >= 2; registers--) {
                 test.lookAtStage3(registers);
             }
         }
         test.fullestProgram();
+        test.phisThatAreCopies();
+        test.phisThatAreNumbers();
+        test.noSlotsWhereAllFit();
+        test.registersForInnermostLoop();
         test.expect.due("some programs need slots", test.withSlots > 100, true);
         test.expect.due("some programs do without", test.withSlots < 7 * PROGRAMS - 100, true);
         test.expect.due("some edges have rings", test.withSpare > 100, true);
@@ -52,10 +56,7 @@ public final class StagesTest {
     private void draw(Random random) {
         int blocks = 1 + random.nextInt(10);
         Drawer drawer = new Drawer(random, 2 + random.nextInt(9), blocks);
-        mill = new ValueMill();
-        for (int block = 0; block < blocks; block++) {
-            mill.block();
-        }
+        begin(blocks);
         for (int block = 0; block < blocks; block++) {
             for (int i = random.nextInt(13); i > 0; i--) {
                 Drawer.Op op = drawer.op(block);
@@ -91,6 +92,19 @@ public final class StagesTest {
         Field field = owner.getClass().getDeclaredField(name);
         field.setAccessible(true);
         return field.get(owner);
+    }
+
+    private int length() throws ReflectiveOperationException {
+        return (Integer) read(read(mill, "code"), "length");
+    }
+
+    private int slotMoves(int section) {
+        int moves = 0;
+        for (int at = from[section]; at < to[section]; at++) {
+            boolean fetches = (form[at] & A_IS_NUMBER) == 0 && a[at] >= FIRST_SLOT;
+            moves += kind[at] == 1 && (d[at] >= FIRST_SLOT || fetches) ? 1 : 0;
+        }
+        return moves;
     }
 
     private int phiMoves() {
@@ -167,14 +181,11 @@ public final class StagesTest {
 
     /** Ten blocks of twelve operations over ten temporaries that all go round: the rows must hold it. */
     private void fullestProgram() throws ReflectiveOperationException {
-        mill = new ValueMill();
-        for (int block = 0; block < 10; block++) {
-            mill.block();
-        }
+        begin(10);
         for (int block = 0; block < 10; block++) {
             for (int i = 0; i < 12; i++) {
-                boolean opens = i == 0;
-                mill.op(block, opens ? 18 : i == 11 ? 2 : 1, opens ? 9 : (i + 8) % 10, (i + 9) % 10, i == 11 ? 3 : 0);
+                boolean calls = block == 0 && i < 10;
+                mill.op(block, calls ? 18 : 2, (i * 7 + block) % 10, (i * 3 + block) % 10, (i + block) % 10);
             }
             mill.branch(block, block, (block * 7 + 3) % 10, (block + 1) % 10);
         }
@@ -183,5 +194,95 @@ public final class StagesTest {
         }
         System.out.println("the longest code has " + longest + " operations of " + kind.length);
         expect.due("the longest code leaves room", longest < kind.length, true);
+    }
+
+    private void begin(int blocks) {
+        mill = new ValueMill();
+        for (int block = 0; block < blocks; block++) {
+            mill.block();
+        }
+    }
+
+    /** Two nested loops that only hand a call's outcome round, by copies: nothing but the call stays. */
+    private void phisThatAreCopies() throws ReflectiveOperationException {
+        begin(4);
+        mill.op(0, 18, 1, 0, 3);
+        mill.op(0, 1, 2, 1, 0);
+        mill.jump(0, 1);
+        mill.op(1, 1, 3, 2, 0);
+        mill.op(1, 1, 2, 1, 0);
+        mill.op(1, 1, 1, 3, 0);
+        mill.branch(1, 1, 1, 2);
+        mill.op(2, 1, 2, 3, 0);
+        mill.branch(2, 2, 1, 3);
+        mill.ret(3, 2);
+        make(1, 2);
+        expect.due("stage 1 has phis", phiMoves() > 0, true);
+        make(2, 2);
+        expect.due("stage 2 has none", phiMoves(), 0);
+        expect.due("stage 2 has the call alone", length(), 1);
+    }
+
+    /** A join of equal numbers, and a loop that keeps one: all is known, and only the write stays. */
+    private void phisThatAreNumbers() throws ReflectiveOperationException {
+        begin(5);
+        mill.branch(0, 9, 1, 2);
+        mill.op(1, 0, 1, 4, 0);
+        mill.jump(1, 3);
+        mill.op(2, 0, 2, 2, 0);
+        mill.op(2, 2, 1, 2, 2);
+        mill.jump(2, 3);
+        mill.op(3, 4, 3, 1, 1);
+        mill.op(3, 5, 1, 3, 1);
+        mill.op(3, 17, 0, 3, 1);
+        mill.branch(3, 1, 3, 4);
+        mill.ret(4, 3);
+        make(2, 2);
+        expect.due("no phi of numbers stays", phiMoves(), 0);
+        expect.due("the write alone stays", length(), 1);
+        expect.due("what it writes is known", a[0], 16);
+        expect.due("where it writes is known", b[0], 4);
+        expect.due("the end is known", endIsNumber[3] && end[3] == 4, true);
+    }
+
+    /** Three values are live at most. */
+    private void noSlotsWhereAllFit() throws ReflectiveOperationException {
+        begin(3);
+        mill.op(0, 18, 1, 0, 3);
+        mill.op(0, 18, 2, 0, 3);
+        mill.op(0, 18, 3, 0, 3);
+        mill.jump(0, 1);
+        mill.op(1, 3, 1, 1, 2);
+        mill.op(1, 2, 3, 3, 1);
+        mill.branch(1, 1, 1, 2);
+        mill.ret(2, 3);
+        for (int registers = 8; registers >= 2; registers--) {
+            make(3, registers);
+            int moves = 0;
+            for (int section = 0; section < from.length; section++) {
+                moves += slotMoves(section);
+            }
+            expect.due("slots are used with " + registers, moves > 0, registers < 3);
+        }
+    }
+
+    /** The loop's own value gets the one register that is left, though others were there before it. */
+    private void registersForInnermostLoop() throws ReflectiveOperationException {
+        begin(3);
+        for (int t = 1; t <= 5; t++) {
+            mill.op(0, 18, t, 0, t);
+        }
+        mill.jump(0, 1);
+        mill.op(1, 0, 9, 1, 0);
+        mill.op(1, 3, 5, 5, 9);
+        mill.branch(1, 5, 1, 2);
+        for (int t = 1; t <= 4; t++) {
+            mill.op(2, 9, 0, 0, t);
+        }
+        make(3, 3);
+        expect.due("slots are used before the loop", slotMoves(0) > 0, true);
+        expect.due("no slots are used in the loop", slotMoves(1), 0);
+        expect.due("nor on its way round", slotMoves(BLOCKS + 2), 0);
+        expect.due("slots are used after the loop", slotMoves(2) > 0, true);
     }
 }
