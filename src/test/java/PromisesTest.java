@@ -13,7 +13,6 @@ public final class PromisesTest {
         test.promise3OpTaken();
         test.promise3OpRefused();
         test.promise3OpTwelve();
-        test.promise3OpKinds();
         test.promise4Jump();
         test.promise5Branch();
         test.promise6Ret();
@@ -35,14 +34,6 @@ public final class PromisesTest {
         test.promise18Phi();
         test.promise19Depth();
         test.e.finish();
-    }
-
-    private static ValueMill withBlocks(int count) {
-        ValueMill x = new ValueMill();
-        for (int i = 0; i < count; i++) {
-            x.block();
-        }
-        return x;
     }
 
     /** A run at every stage and with every number of registers must end so, and return so. */
@@ -96,13 +87,13 @@ public final class PromisesTest {
 
     private void promise3OpTaken() {
         for (int kind = 0; kind <= 18; kind++) {
-            ValueMill x = withBlocks(2);
+            ValueMill x = Programs.blocks(2);
             int d = kind == 17 ? 0 : 9;
             int b = kind == 0 || kind == 1 || kind == 16 ? 0 : 9;
             e.due("op of kind " + kind, x.op(1, kind, d, 9, b), true);
             e.due("op of kind " + kind + " with 0s", x.op(0, kind, 0, 0, 0), true);
         }
-        ValueMill x = withBlocks(1);
+        ValueMill x = Programs.blocks(1);
         e.due("the least number", x.op(0, 0, 1, LEAST, 0), true);
         e.due("the most number", x.op(0, 0, 1, MOST, 0), true);
         x.ret(0, 1);
@@ -111,7 +102,7 @@ public final class PromisesTest {
 
     private void promise3OpRefused() {
         for (int kind = 0; kind <= 18; kind++) {
-            ValueMill x = withBlocks(2);
+            ValueMill x = Programs.blocks(2);
             int d = kind == 17 ? 0 : 1;
             int b = kind == 0 || kind == 1 || kind == 16 ? 0 : 1;
             String op = "op of kind " + kind;
@@ -127,7 +118,7 @@ public final class PromisesTest {
                 e.due(op + " in block " + wrong, x.op(wrong, kind, d, 1, b), false);
             }
         }
-        ValueMill x = withBlocks(1);
+        ValueMill x = Programs.blocks(1);
         for (int kind : new int[] {-1, 19, 20, LEAST, MOST}) {
             e.due("kind " + kind, x.op(0, kind, 0, 0, 0), false);
         }
@@ -138,7 +129,7 @@ public final class PromisesTest {
     }
 
     private void promise3OpTwelve() {
-        ValueMill x = withBlocks(3);
+        ValueMill x = Programs.blocks(3);
         x.op(1, 0, 1, 1, 0);
         for (int i = 0; i < 11; i++) {
             e.due("operation " + i, x.op(1, 2, 0, 0, 1), true);
@@ -149,88 +140,8 @@ public final class PromisesTest {
         everyRun("eleven times one more", x, 5, 0, 11);
     }
 
-    /** Each kind, told so that stage 2 can reckon it before, and so that it cannot. */
-    private void promise3OpKinds() {
-        kind(1, 7, 0, 7);
-        kind(2, MOST, 1, LEAST);
-        kind(2, -4, 9, 5);
-        kind(3, LEAST, 1, MOST);
-        kind(3, 3, 10, -7);
-        kind(4, 65536, 65536, 0);
-        kind(4, 123456789, 1000, -1097262584);
-        kind(5, 7, 2, 3);
-        kind(5, -7, 2, -3);
-        kind(5, 7, -2, -3);
-        kind(5, LEAST, 1, LEAST);
-        kind(5, LEAST + 1, -1, MOST);
-        kind(6, 7, 2, 1);
-        kind(6, -7, 2, -1);
-        kind(6, 7, -2, 1);
-        kind(6, LEAST, 2, 0);
-        kind(7, 12, 10, 8);
-        kind(8, 12, 10, 14);
-        kind(9, 12, 10, 6);
-        kind(9, -1, 10, -11);
-        kind(10, 1, 31, LEAST);
-        kind(10, 1, 33, 2);
-        kind(10, 3, -1, LEAST);
-        kind(11, -8, 1, -4);
-        kind(11, LEAST, 31, -1);
-        kind(11, 8, 34, 2);
-        kind(12, -8, 1, 2147483644);
-        kind(12, LEAST, 31, 1);
-        kind(12, -1, 32, -1);
-        kind(13, 5, 5, 1);
-        kind(13, 5, 6, 0);
-        kind(14, -1, 0, 1);
-        kind(14, 0, 0, 0);
-        kind(14, MOST, LEAST, 0);
-        kind(15, -1, 0, 0);
-        kind(15, 0, -1, 1);
-        kind(15, MOST, LEAST, 1);
-        kind(15, 3, 3, 0);
-        ends(5, 7, 0);
-        ends(5, LEAST, -1);
-        ends(6, 7, 0);
-        ends(6, LEAST, -1);
-        ends(6, 0, 0);
-    }
-
-    private void kind(int kind, int a, int b, int made) {
-        String what = "kind " + kind + " of " + a + " and " + b;
-        everyRun(what, ofNumbers(kind, a, b), 2, 0, made);
-        everyRun(what + " from memory", ofWords(kind, a, b), 2, 0, made);
-    }
-
-    private void ends(int kind, int a, int b) {
-        String what = "kind " + kind + " of " + a + " and " + b;
-        everyRun(what, ofNumbers(kind, a, b), 2, 1, 0);
-        everyRun(what + " from memory", ofWords(kind, a, b), 2, 1, 0);
-    }
-
-    private static ValueMill ofNumbers(int kind, int a, int b) {
-        ValueMill x = withBlocks(1);
-        x.op(0, 0, 3, a, 0);
-        x.op(0, 0, 4, b, 0);
-        x.op(0, kind, 3, 3, kind == 1 ? 0 : 4);
-        x.ret(0, 3);
-        return x;
-    }
-
-    private static ValueMill ofWords(int kind, int a, int b) {
-        ValueMill x = withBlocks(1);
-        x.memory(0, a);
-        x.memory(31, b);
-        x.op(0, 0, 5, 31, 0);
-        x.op(0, 16, 3, 0, 0);
-        x.op(0, 16, 4, 5, 0);
-        x.op(0, kind, 4, 3, kind == 1 ? 0 : 4);
-        x.ret(0, 4);
-        return x;
-    }
-
     private void promise4Jump() {
-        ValueMill x = withBlocks(3);
+        ValueMill x = Programs.blocks(3);
         for (int wrong : new int[] {-1, 3, 10, LEAST, MOST}) {
             e.due("jump from " + wrong, x.jump(wrong, 1), false);
             e.due("jump to " + wrong, x.jump(0, wrong), false);
@@ -251,7 +162,7 @@ public final class PromisesTest {
     }
 
     private void promise5Branch() {
-        ValueMill x = withBlocks(3);
+        ValueMill x = Programs.blocks(3);
         for (int wrong : new int[] {-1, 3, 10, LEAST, MOST}) {
             e.due("branch from " + wrong, x.branch(wrong, 1, 1, 1), false);
             e.due("branch yes " + wrong, x.branch(0, 1, wrong, 1), false);
@@ -276,7 +187,7 @@ public final class PromisesTest {
     }
 
     private void promise6Ret() {
-        ValueMill x = withBlocks(2);
+        ValueMill x = Programs.blocks(2);
         x.op(0, 0, 0, 3, 0);
         x.op(0, 0, 9, 4, 0);
         everyRun("at first temporary 0 is returned", x, 9, 0, 3);
@@ -296,7 +207,7 @@ public final class PromisesTest {
     }
 
     private void promise7Memory() {
-        ValueMill x = withBlocks(1);
+        ValueMill x = Programs.blocks(1);
         for (int wrong : new int[] {-1, 32, LEAST, MOST}) {
             e.due("memory " + wrong, x.memory(wrong, 1), false);
         }
@@ -317,7 +228,7 @@ public final class PromisesTest {
     }
 
     private void promise8RunRefused() {
-        ValueMill x = withBlocks(1);
+        ValueMill x = Programs.blocks(1);
         x.op(0, 0, 1, 5, 0);
         x.op(0, 18, 2, 1, 3);
         x.op(0, 17, 0, 1, 1);
@@ -342,7 +253,7 @@ public final class PromisesTest {
     }
 
     private void promise8RunEndings() {
-        ValueMill x = withBlocks(2);
+        ValueMill x = Programs.blocks(2);
         x.op(0, 0, 1, 31, 0);
         x.op(0, 0, 2, 9, 0);
         x.op(0, 17, 0, 2, 1);
@@ -357,13 +268,13 @@ public final class PromisesTest {
             ending(5, address, 2, 31);
             ending(6, address, 2, 0);
         }
-        ValueMill y = withBlocks(1);
+        ValueMill y = Programs.blocks(1);
         y.op(0, 18, 1, 1, 0);
         y.op(0, 5, 2, 1, 0);
         y.op(0, 18, 1, 1, 0);
         everyRun("unused division ends all the same", y, 9, 1, 0);
         e.due("the call before it", y.calls(), 1);
-        ValueMill z = withBlocks(1);
+        ValueMill z = Programs.blocks(1);
         z.op(0, 0, 1, 32, 0);
         z.op(0, 16, 1, 1, 0);
         z.op(0, 0, 1, 4, 0);
@@ -373,7 +284,7 @@ public final class PromisesTest {
 
     /** Temporary 5 is read from, 6 written to, in a second block; the first wrote 9 to word 31. */
     private void ending(int temp, int address, int ending, int lastWord) {
-        ValueMill x = withBlocks(2);
+        ValueMill x = Programs.blocks(2);
         x.op(0, 0, temp, address, 0);
         x.op(0, 0, 1, 31, 0);
         x.op(0, 17, 0, 1, 1);
@@ -390,7 +301,7 @@ public final class PromisesTest {
     }
 
     private void promise8RunFuel() {
-        ValueMill x = countdown(4);
+        ValueMill x = Programs.countdown(4);
         everyRun("no fuel", x, 0, 3, 0);
         e.due("none entered", x.entered(), 0);
         e.due("no call", x.calls(), 0);
@@ -403,24 +314,9 @@ public final class PromisesTest {
         e.due("entered with 12", x.entered(), 11);
     }
 
-    /** 0: sets up; 1: asks; 2: one round with a call; 3: returns the rounds. Enters 3 + 2 * rounds. */
-    private static ValueMill countdown(int rounds) {
-        ValueMill x = withBlocks(4);
-        x.op(0, 0, 1, rounds, 0);
-        x.op(0, 0, 2, 1, 0);
-        x.jump(0, 1);
-        x.branch(1, 1, 2, 3);
-        x.op(2, 3, 1, 1, 2);
-        x.op(2, 18, 3, 1, 5);
-        x.op(2, 2, 4, 4, 2);
-        x.jump(2, 1);
-        x.ret(3, 4);
-        return x;
-    }
-
     /** Values that change places on the way round: what edges carry must be carried at one time. */
     private void promise8RunSwaps() {
-        ValueMill x = withBlocks(3);
+        ValueMill x = Programs.blocks(3);
         for (int t = 0; t < 8; t++) {
             x.op(0, 0, t, t + 1, 0);
         }
@@ -442,7 +338,7 @@ public final class PromisesTest {
             }
         }
         everyRun("a ring of eight", x, 20, 0, 67812000);
-        ValueMill y = withBlocks(3);
+        ValueMill y = Programs.blocks(3);
         y.op(0, 0, 0, 1, 0);
         y.op(0, 0, 1, 2, 0);
         y.op(0, 0, 2, 3, 0);
@@ -458,7 +354,7 @@ public final class PromisesTest {
     }
 
     private void promise8RunAfterChanges() {
-        ValueMill x = withBlocks(1);
+        ValueMill x = Programs.blocks(1);
         x.op(0, 0, 0, 3, 0);
         for (int stage = 0; stage <= 3; stage++) {
             x.run(stage, 4, 9);
@@ -482,7 +378,7 @@ public final class PromisesTest {
     }
 
     private void promise9Value() {
-        ValueMill x = withBlocks(2);
+        ValueMill x = Programs.blocks(2);
         e.due("before a run", x.value(), 0);
         x.op(0, 0, 1, -9, 0);
         x.ret(0, 1);
@@ -493,7 +389,7 @@ public final class PromisesTest {
         e.due("stays", x.value(), -9);
         x.run(3, 2, 1);
         e.due("after DIVISION", x.value(), 0);
-        ValueMill y = countdown(2);
+        ValueMill y = Programs.countdown(2);
         y.run(1, 2, 7);
         e.due("returned", y.value(), 2);
         y.run(1, 2, 6);
@@ -507,7 +403,7 @@ public final class PromisesTest {
     }
 
     private void promise10Entered() {
-        ValueMill x = countdown(3);
+        ValueMill x = Programs.countdown(3);
         e.due("before a run", x.entered(), 0);
         for (int stage = 0; stage <= 3; stage++) {
             for (int fuel = 0; fuel <= 12; fuel++) {
@@ -524,7 +420,7 @@ public final class PromisesTest {
     }
 
     private void promise11Word() {
-        ValueMill x = withBlocks(1);
+        ValueMill x = Programs.blocks(1);
         x.memory(4, 44);
         e.due("before a run", x.word(4), 0);
         x.op(0, 0, 1, 4, 0);
@@ -549,7 +445,7 @@ public final class PromisesTest {
     }
 
     private void promise12Calls() {
-        ValueMill x = withBlocks(1);
+        ValueMill x = Programs.blocks(1);
         e.due("before a run", x.calls(), 0);
         for (int i = 0; i < 12; i++) {
             x.op(0, 18, 0, 0, i % 10);
@@ -566,7 +462,7 @@ public final class PromisesTest {
     }
 
     private void promise13Call() {
-        ValueMill x = withBlocks(2);
+        ValueMill x = Programs.blocks(2);
         e.due("before a run", x.call(0, 0), 0);
         x.op(0, 0, 1, MOST, 0);
         x.op(0, 18, 2, 1, 9);
@@ -611,45 +507,15 @@ public final class PromisesTest {
         e.due(what + ": order(MOST)", x.order(MOST), NONE);
     }
 
-    /** 0 to 1 or 2, both to 3; 4 is dead and goes to 3. */
-    private static ValueMill diamond() {
-        ValueMill x = withBlocks(5);
-        x.branch(0, 0, 1, 2);
-        x.jump(1, 3);
-        x.jump(2, 3);
-        x.jump(4, 3);
-        return x;
-    }
-
-    /** 0 - 1 - 2 - 3, 3 back to 2 or on to 4, 4 back to 1 or on to 5. */
-    private static ValueMill nested() {
-        ValueMill x = withBlocks(6);
-        x.jump(0, 1);
-        x.jump(1, 2);
-        x.jump(2, 3);
-        x.branch(3, 0, 2, 4);
-        x.branch(4, 0, 1, 5);
-        return x;
-    }
-
-    /** 0 to 1 or 2, which go to one another: no head. 2 also goes to 3. */
-    private static ValueMill crossed() {
-        ValueMill x = withBlocks(4);
-        x.branch(0, 0, 1, 2);
-        x.jump(1, 2);
-        x.branch(2, 0, 1, 3);
-        return x;
-    }
-
     private void promise14Order() {
-        order("one block", withBlocks(3), 0);
-        order("diamond", diamond(), 0, 2, 1, 3);
-        ValueMill x = diamond();
+        order("one block", Programs.blocks(3), 0);
+        order("diamond", Programs.diamond(), 0, 2, 1, 3);
+        ValueMill x = Programs.diamond();
         x.branch(0, 0, 2, 1);
         order("diamond, the other edge first", x, 0, 1, 2, 3);
-        order("nested", nested(), 0, 1, 2, 3, 4, 5);
-        order("crossed", crossed(), 0, 1, 2, 3);
-        ValueMill y = withBlocks(10);
+        order("nested", Programs.nested(), 0, 1, 2, 3, 4, 5);
+        order("crossed", Programs.crossed(), 0, 1, 2, 3);
+        ValueMill y = Programs.blocks(10);
         for (int block = 0; block < 9; block++) {
             y.branch(block, 0, block + 1, 0);
         }
@@ -671,14 +537,14 @@ public final class PromisesTest {
     }
 
     private void promise15Nearest() {
-        nearest("dead blocks", withBlocks(3), NONE, NONE, NONE, NONE);
-        nearest("diamond", diamond(), NONE, 0, 0, 0, NONE, NONE);
-        nearest("nested", nested(), NONE, 0, 1, 2, 3, 4, NONE);
-        nearest("crossed", crossed(), NONE, 0, 0, 2, NONE);
-        ValueMill x = nested();
+        nearest("dead blocks", Programs.blocks(3), NONE, NONE, NONE, NONE);
+        nearest("diamond", Programs.diamond(), NONE, 0, 0, 0, NONE, NONE);
+        nearest("nested", Programs.nested(), NONE, 0, 1, 2, 3, 4, NONE);
+        nearest("crossed", Programs.crossed(), NONE, 0, 0, 2, NONE);
+        ValueMill x = Programs.nested();
         x.jump(5, 0);
         nearest("round the entry", x, NONE, 0, 1, 2, 3, 4, NONE);
-        ValueMill y = withBlocks(2);
+        ValueMill y = Programs.blocks(2);
         y.branch(0, 3, 1, 1);
         nearest("both edges to one", y, NONE, 0, NONE);
     }
@@ -696,7 +562,7 @@ public final class PromisesTest {
     }
 
     private void promise16Frontier() {
-        ValueMill x = diamond();
+        ValueMill x = Programs.diamond();
         frontier("diamond", x, 0);
         frontier("diamond", x, 1, 3);
         frontier("diamond", x, 2, 3);
@@ -704,7 +570,7 @@ public final class PromisesTest {
         frontier("diamond, dead", x, 4);
         frontier("diamond, not there", x, 5);
         frontier("diamond, not there", x, -1);
-        ValueMill y = nested();
+        ValueMill y = Programs.nested();
         frontier("nested", y, 0);
         frontier("nested", y, 1, 1);
         frontier("nested", y, 2, 1, 2);
@@ -714,7 +580,7 @@ public final class PromisesTest {
         y.jump(5, 0);
         frontier("round the entry", y, 0, 0);
         frontier("round the entry", y, 3, 0, 1, 2);
-        ValueMill z = crossed();
+        ValueMill z = Programs.crossed();
         frontier("crossed", z, 1, 2);
         frontier("crossed", z, 2, 1);
         z.jump(2, 2);
@@ -732,7 +598,7 @@ public final class PromisesTest {
     }
 
     private void promise17Live() {
-        ValueMill x = diamond();
+        ValueMill x = Programs.diamond();
         x.op(1, 0, 5, 1, 0);
         x.ret(3, 5);
         live("set on one side", x, 5, 0, 2, 3, 4);
@@ -747,7 +613,7 @@ public final class PromisesTest {
             e.due("live of " + wrong, x.live(0, wrong), false);
             e.due("live in " + wrong, x.live(wrong, 0), false);
         }
-        ValueMill y = nested();
+        ValueMill y = Programs.nested();
         y.op(1, 18, 3, 2, 7);
         y.op(4, 17, 0, 3, 4);
         y.op(0, 16, 3, 8, 0);
@@ -757,7 +623,7 @@ public final class PromisesTest {
         live("where to is written", y, 4, 0, 1, 2, 3, 4);
         live("where from is read", y, 8, 0);
         live("a write's d is none", y, 0, 0, 1, 2, 3, 4, 5);
-        ValueMill z = withBlocks(2);
+        ValueMill z = Programs.blocks(2);
         z.op(0, 0, 1, 9, 0);
         z.op(0, 0, 0, 9, 0);
         z.jump(0, 1);
@@ -785,7 +651,7 @@ public final class PromisesTest {
     }
 
     private void promise18Phi() {
-        ValueMill x = diamond();
+        ValueMill x = Programs.diamond();
         phi("nowhere made", x, 0);
         x.op(1, 0, 5, 1, 0);
         phi("made but not live", x, 5);
@@ -802,7 +668,7 @@ public final class PromisesTest {
             e.due("phi of " + wrong, x.phi(3, wrong), false);
             e.due("phi in " + wrong, x.phi(wrong, 5), false);
         }
-        ValueMill y = nested();
+        ValueMill y = Programs.nested();
         y.op(3, 2, 1, 1, 2);
         y.ret(5, 1);
         phi("made in the inner loop", y, 1, 1, 2);
@@ -810,14 +676,14 @@ public final class PromisesTest {
         y.jump(5, 0);
         phi("round the entry, by its own beginning", y, 2, 0);
         phi("round the entry", y, 1, 0, 1, 2);
-        ValueMill z = withBlocks(4);
+        ValueMill z = Programs.blocks(4);
         z.branch(0, 0, 1, 3);
         z.branch(1, 0, 2, 3);
         z.jump(2, 3);
         z.op(2, 0, 4, 1, 0);
         z.ret(3, 4);
         phi("through one frontier", z, 4, 3);
-        ValueMill w = withBlocks(6);
+        ValueMill w = Programs.blocks(6);
         w.branch(0, 0, 1, 4);
         w.branch(1, 0, 2, 3);
         w.jump(2, 3);
@@ -838,28 +704,28 @@ public final class PromisesTest {
     }
 
     private void promise19Depth() {
-        depth("diamond", diamond(), 0, 0, 0, 0, NONE, NONE);
-        ValueMill x = nested();
+        depth("diamond", Programs.diamond(), 0, 0, 0, 0, NONE, NONE);
+        ValueMill x = Programs.nested();
         depth("nested", x, 0, 1, 2, 2, 1, 0, NONE);
         x.jump(5, 0);
         depth("round the entry", x, 1, 2, 3, 3, 2, 1, NONE);
-        depth("crossed has no head", crossed(), 0, 0, 0, 0, NONE);
-        ValueMill y = withBlocks(3);
+        depth("crossed has no head", Programs.crossed(), 0, 0, 0, 0, NONE);
+        ValueMill y = Programs.blocks(3);
         y.branch(0, 0, 1, 2);
         y.branch(1, 0, 1, 0);
         depth("two edges back to two heads", y, 1, 2, 0, NONE);
-        ValueMill z = withBlocks(4);
+        ValueMill z = Programs.blocks(4);
         z.jump(0, 1);
         z.branch(1, 0, 2, 3);
         z.jump(2, 1);
         z.jump(3, 1);
         depth("two ways back are one loop", z, 0, 1, 1, 1, NONE);
-        ValueMill w = withBlocks(4);
+        ValueMill w = Programs.blocks(4);
         w.branch(0, 0, 1, 2);
         w.jump(1, 0);
         w.jump(3, 3);
         depth("a dead loop", w, 1, 1, 0, NONE, NONE);
-        ValueMill v = withBlocks(10);
+        ValueMill v = Programs.blocks(10);
         for (int block = 0; block < 9; block++) {
             v.branch(block, 0, block + 1, block);
         }

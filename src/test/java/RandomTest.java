@@ -2,11 +2,15 @@ import java.util.Random;
 
 /**
  * Programs drawn from fixed seeds, told to a ValueMill and to the Model alike: every answer of
- * either must be the other's, at every stage and with every number of registers.
+ * either must be the other's, at every stage and with every number of registers. No object is asked
+ * more than the 512 times for which it is promised to answer.
  */
 public final class RandomTest {
-    private static final int PROGRAMS = 4000;
-    private static final int CALLS = 450;
+    private static final int PROGRAMS = 12000;
+    private static final int MOST_CALLS = 512;
+    private static final int MOST_TO_BUILD = 200;
+    private static final int MOST_TO_CHANGE = 100;
+    private static final int LOOKS = 100;
 
     private final Expect expect = new Expect();
     private final int[] endings = new int[5];
@@ -16,6 +20,7 @@ public final class RandomTest {
     private Model model;
     private int seed;
     private int made;
+    private int mostMade;
 
     public static void main(String[] args) {
         RandomTest test = new RandomTest();
@@ -23,8 +28,9 @@ public final class RandomTest {
             test.runSeed(seed);
         }
         for (int ending = 0; ending < 4; ending++) {
-            test.expect.due("some runs end with " + ending, test.endings[ending + 1] > PROGRAMS, true);
+            test.expect.due("many runs end with " + ending, test.endings[ending + 1] > PROGRAMS / 4, true);
         }
+        test.expect.due(test.mostMade + " calls are no more than 512", test.mostMade <= MOST_CALLS, true);
         test.expect.finish();
     }
 
@@ -37,25 +43,24 @@ public final class RandomTest {
         int blocks = 1 + random.nextInt(10);
         drawer = new Drawer(random, 2 + random.nextInt(9), blocks);
         for (int i = 0; i < blocks; i++) {
-            made++;
             due("block()", mill.block(), model.block());
         }
         build(blocks, 1 + random.nextInt(12));
-        runAll();
-        look(blocks);
-        while (made < CALLS) {
-            change(blocks);
-            runAll();
+        if (random.nextBoolean()) {
+            look();
         }
-        look(blocks);
+        while (made < MOST_CALLS - LOOKS - MOST_TO_CHANGE) {
+            runAll();
+            change(blocks);
+        }
+        look();
+        mostMade = Math.max(mostMade, made);
     }
 
+    /** Each answer is that of one call. */
     private void due(String call, long got, long want) {
-        if (got != want) {
-            expect.due("seed " + seed + ": " + call, got, want);
-        } else {
-            expect.due(call, got, want);
-        }
+        made++;
+        expect.due(got == want ? call : "seed " + seed + ": " + call, got, want);
     }
 
     private void due(String call, boolean got, boolean want) {
@@ -65,29 +70,30 @@ public final class RandomTest {
     private void build(int blocks, int most) {
         for (int block = 0; block < blocks; block++) {
             int count = random.nextInt(most + 1);
-            for (int i = 0; i < count && made < 200; i++) {
+            for (int i = 0; i < count && made < MOST_TO_BUILD; i++) {
                 addOp(block);
             }
             setEnd(block);
         }
         for (int i = 0; i < 4; i++) {
-            int word = random.nextInt(34) - 1;
-            int v = drawer.number();
-            made++;
-            due("memory", mill.memory(word, v), model.memory(word, v));
+            tellWord();
         }
+    }
+
+    private void tellWord() {
+        int word = random.nextInt(34) - 1;
+        int v = drawer.number();
+        due("memory", mill.memory(word, v), model.memory(word, v));
     }
 
     private void addOp(int block) {
         Drawer.Op op = drawer.op(block);
-        made++;
         due(op.toString(), mill.op(block, op.kind(), op.d(), op.a(), op.b()),
                 model.op(block, op.kind(), op.d(), op.a(), op.b()));
     }
 
     private void setEnd(int block) {
         Drawer.End end = drawer.end(block);
-        made++;
         if (end.how() == Drawer.JUMP) {
             due(end.toString(), mill.jump(block, end.yes()), model.jump(block, end.yes()));
         } else if (end.how() == Drawer.BRANCH) {
@@ -101,12 +107,16 @@ public final class RandomTest {
     private void change(int blocks) {
         for (int i = 0; i < 3; i++) {
             int block = random.nextInt(blocks);
-            if (random.nextBoolean()) {
+            int what = random.nextInt(9);
+            if (what < 4) {
                 addOp(block);
-            } else {
+            } else if (what < 8) {
                 setEnd(block);
+            } else {
+                tellWord();
             }
         }
+        ask(4);
     }
 
     private void runAll() {
@@ -127,28 +137,36 @@ public final class RandomTest {
         due("value()", mill.value(), model.value);
         due("entered()", mill.entered(), model.entered);
         due("calls()", mill.calls(), model.calls.size());
-        made += 4;
-        // More is asked than an object would be used for, so these do not count as calls here.
-        for (int i = -1; i <= 32; i++) {
-            due("word", mill.word(i), model.word(i));
-        }
-        for (int k = -1; k <= Math.min(201, model.calls.size()); k++) {
-            for (int what = -1; what <= 3; what++) {
-                due("call", mill.call(k, what), model.call(k, what));
-            }
+        ask(6);
+    }
+
+    /** Some words and outer calls of the latest run. */
+    private void ask(int times) {
+        for (int i = 0; i < times; i += 2) {
+            int word = random.nextInt(34) - 1;
+            due("word(" + word + ")", mill.word(word), model.word(word));
+            int k = random.nextInt(Math.min(202, model.calls.size() + 2)) - 1;
+            int what = random.nextInt(20) == 0 ? random.nextInt(5) - 1 : random.nextInt(3);
+            due("call(" + k + ", " + what + ")", mill.call(k, what), model.call(k, what));
         }
     }
 
-    private void look(int blocks) {
-        for (int block = -1; block <= blocks; block++) {
-            due("order(" + block + ")", mill.order(block), model.order(block));
-            due("nearest(" + block + ")", mill.nearest(block), model.nearest(block));
-            due("depth(" + block + ")", mill.depth(block), model.depth(block));
-            for (int c = -1; c <= 10; c++) {
-                due("frontier(" + block + ", " + c + ")", mill.frontier(block, c), model.frontier(block, c));
-                due("live(" + block + ", " + c + ")", mill.live(block, c), model.live(block, c));
-                due("phi(" + block + ", " + c + ")", mill.phi(block, c), model.phi(block, c));
-            }
+    private void look() {
+        for (int i = 0; i < LOOKS; i++) {
+            int block = random.nextInt(40) == 0 ? random.nextInt(12) - 1 : random.nextInt(model.ops.size());
+            int c = random.nextInt(40) == 0 ? random.nextInt(12) - 1 : random.nextInt(10);
+            lookOnce(random.nextInt(8), block, c);
+        }
+    }
+
+    private void lookOnce(int what, int block, int c) {
+        switch (what) {
+            case 0 -> due("order(" + block + ")", mill.order(block), model.order(block));
+            case 1 -> due("nearest(" + block + ")", mill.nearest(block), model.nearest(block));
+            case 2 -> due("depth(" + block + ")", mill.depth(block), model.depth(block));
+            case 3 -> due("live(" + block + ", " + c + ")", mill.live(block, c), model.live(block, c));
+            case 4, 5 -> due("frontier(" + block + ", " + c + ")", mill.frontier(block, c), model.frontier(block, c));
+            default -> due("phi(" + block + ", " + c + ")", mill.phi(block, c), model.phi(block, c));
         }
     }
 }
