@@ -496,13 +496,10 @@ public final class ValueMill {
             count++;
         }
 
-        /** A block dominates just those that the entry does not reach without it. */
+        /** A block dominates just those that the entry does not reach without it: a dead one, none. */
         private void findDominators() {
             Arrays.fill(dominators, 0);
             for (int one = 0; one < program.blocks; one++) {
-                if (!isIn(alive, one)) {
-                    continue;
-                }
                 int others = reachedFrom(0, 1 << one);
                 for (int block = 0; block < program.blocks; block++) {
                     if (isIn(alive & ~others, block)) {

@@ -33,6 +33,7 @@ public final class KindsTest {
         test.allPairs();
         test.words();
         test.callsWrap();
+        test.callsGoOn();
         test.becomeWhatTheyTake();
         test.e.finish();
     }
@@ -318,6 +319,24 @@ public final class KindsTest {
             x.run(stage[0], stage[1], 500);
             e.due("the count begins with each run", x.value(), 5 + 7 * 199);
             e.due("the first of the second run", x.call(0, 2), 199 * 31 + 5);
+        }
+    }
+
+    /** Behind 200 calls their count goes on, though what they were is no longer kept. */
+    private void callsGoOn() {
+        e.about("7 * how many calls there were before in this run (more than 200, too)");
+        for (int[] stage : STAGES) {
+            ValueMill x = Programs.blocks(1);
+            for (int i = 0; i < 11; i++) {
+                x.op(0, 18, 1, 2, i % 10);
+            }
+            x.op(0, 17, 0, 1, 0);
+            x.jump(0, 0);
+            for (int rounds : new int[] {1, 18, 19, 94, 500}) {
+                x.run(stage[0], stage[1], rounds);
+                e.due("calls", x.calls(), 11 * rounds);
+                e.due("the last of " + rounds + " rounds", x.word(0), 7 * (11 * rounds - 1));
+            }
         }
     }
 

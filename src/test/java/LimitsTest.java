@@ -134,7 +134,7 @@ public final class LimitsTest {
         e.due("an 11th", x.block(), NONE);
         e.due("a 12th", x.block(), NONE);
         refusedByBusy("block()", y -> y.block() != NONE);
-        refused("block() twice", () -> Programs.row(10), y -> y.block() != NONE || y.block() != NONE);
+        refused("block() twice", Programs::full, y -> y.block() != NONE || y.block() != NONE);
     }
 
     private void blockIsThere() {
@@ -256,15 +256,14 @@ public final class LimitsTest {
 
     private void opFull() {
         e.about("A block has up to 12 operations, 10 blocks at most");
+        for (int block = 0; block < 10; block++) {
+            int each = block;
+            e.due("no room in block " + block, View.roomIn(Programs.full(), block), 0);
+            refused("a 121st in block " + block, Programs::full, x -> x.op(each, 18, 5, 6, 9));
+        }
         for (int registers = 2; registers <= 8; registers++) {
             for (int stage = 0; stage <= 3; stage++) {
-                ValueMill x = Programs.row(10);
-                for (int i = 0; i < 120; i++) {
-                    int t = i % 10;
-                    boolean fits = i < 10 ? x.op(0, 0, t, t, 0) : x.op(i / 12, 2, t, t, (t + 1) % 10);
-                    e.due("operation " + i, fits, true);
-                }
-                x.ret(9, 5);
+                ValueMill x = Programs.full();
                 e.due("ended", x.run(stage, registers, 10), 0);
                 e.due("at stage " + stage + " with " + registers, x.value(), sumsInTurn(5));
             }

@@ -140,6 +140,9 @@ public final class LookEdgesTest {
         order("ret", x, 0);
         e.due("nearest behind ret", x.nearest(1), NONE);
         e.due("depth behind ret", x.depth(1), NONE);
+        e.due("no block yet", x.live(3, 0), false);
+        x.block();
+        e.due("one more block", x.live(3, 0), true);
     }
 
     private void nearestOfNone() {
@@ -438,6 +441,11 @@ public final class LookEdgesTest {
         e.due("going to itself", x.depth(0), 1);
         x.branch(0, 0, 0, 0);
         e.due("by both edges", x.depth(0), 1);
+        ValueMill two = Programs.diamond();
+        two.jump(1, 0);
+        two.jump(2, 0);
+        e.due("two ways back to one head", two.depth(0), 1);
+        e.due("two ways back to one head", two.depth(2), 1);
         ValueMill y = Programs.crossed();
         for (int block = 0; block < 4; block++) {
             e.due("no head", y.depth(block), 0);

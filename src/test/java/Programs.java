@@ -67,6 +67,24 @@ final class Programs {
     }
 
     /**
+     * Ten blocks in a row with twelve operations each: 0 .. 9 in the temporaries, and then 110 times the
+     * next temporary is added to one, in turn. The last block returns temporary 5.
+     */
+    static ValueMill full() {
+        ValueMill x = row(10);
+        for (int i = 0; i < 120; i++) {
+            int t = i % 10;
+            if (i < 10) {
+                x.op(0, 0, t, t, 0);
+            } else {
+                x.op(i / 12, 2, t, t, (t + 1) % 10);
+            }
+        }
+        x.ret(9, 5);
+        return x;
+    }
+
+    /**
      * Ten blocks: three rounds of 1 2 3 4 6, in each a call, a write and the twelve operations of
      * block 3, then 7, which returns 36; 5 is never gone to, 8 and 9 are dead. Enters 18.
      */
@@ -93,7 +111,8 @@ final class Programs {
         x.ret(7, 4);
         x.op(8, 1, 5, 6, 0);
         x.branch(8, 8, 7, 9);
-        x.ret(9, 9);
+        x.op(9, 18, 7, 7, 9);
+        x.branch(9, 9, 8, 9);
         return x;
     }
 

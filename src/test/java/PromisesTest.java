@@ -21,6 +21,7 @@ public final class PromisesTest {
         test.promise8RunEndings();
         test.promise8RunFuel();
         test.promise8RunSwaps();
+        test.promise8RunFourSwaps();
         test.promise8RunAfterChanges();
         test.promise9Value();
         test.promise10Entered();
@@ -351,6 +352,34 @@ public final class PromisesTest {
         y.branch(1, 2, 1, 2);
         y.op(2, 3, 0, 0, 1);
         everyRun("three swaps", y, 20, 0, 1);
+    }
+
+    /** As many rings as a block's operations can make, beside a count that goes round with them. */
+    private void promise8RunFourSwaps() {
+        ValueMill x = Programs.row(4);
+        for (int t = 0; t < 8; t++) {
+            x.op(0, 0, t, t + 1, 0);
+        }
+        x.op(0, 0, 8, 3, 0);
+        for (int t = 0; t < 8; t += 2) {
+            x.op(1, 1, 9, t, 0);
+            x.op(1, 1, t, t + 1, 0);
+            x.op(1, 1, t + 1, 9, 0);
+        }
+        x.op(2, 0, 9, 1, 0);
+        x.op(2, 3, 8, 8, 9);
+        x.branch(2, 8, 1, 3);
+        for (int t = 0; t < 8; t++) {
+            x.op(3, 18, 9, t, 0);
+        }
+        for (int stage = 0; stage <= 3; stage++) {
+            for (int registers = 2; registers <= 8; registers += 2) {
+                e.due("four swaps, three times", x.run(stage, registers, 20), 0);
+                for (int t = 0; t < 8; t++) {
+                    e.due("temporary " + t + " at stage " + stage, x.call(t, 1), t % 2 == 0 ? t + 2 : t);
+                }
+            }
+        }
     }
 
     private void promise8RunAfterChanges() {

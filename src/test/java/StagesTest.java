@@ -1,9 +1,12 @@
 import java.lang.reflect.Field;
+import java.util.ArrayList;
+import java.util.List;
 import java.util.Random;
 
 /**
- * Looks at the code that each stage makes: that stage 1 names each value once, that stage 2 has no
- * copies and nothing that could be reckoned before, and that stage 3 uses no more registers than told.
+ * Looks at the code that each stage makes: that stage 0 has what was told, that stage 1 names each
+ * value once, that stage 2 has no copies and nothing that could be reckoned before, and that stage 3
+ * uses no more registers than told.
  */
 public final class StagesTest {
     private static final int PROGRAMS = 3000;
@@ -14,6 +17,7 @@ public final class StagesTest {
     private static final int B_IS_NUMBER = 2;
 
     private final Expect expect = new Expect();
+    private final List<Drawer.Op> told = new ArrayList<>();
     private ValueMill mill;
     private int[] from;
     private int[] to;
@@ -34,6 +38,7 @@ public final class StagesTest {
         StagesTest test = new StagesTest();
         for (int seed = 0; seed < PROGRAMS && test.expect.wrong() < 20; seed++) {
             test.draw(new Random(seed));
+            test.lookAtStage0();
             test.lookAtStage1();
             test.lookAtStage2();
             for (int registers = 8; registers >= 2; registers--) {
@@ -43,6 +48,8 @@ public final class StagesTest {
         test.fullestProgram();
         test.phisThatAreCopies();
         test.phisThatAreNumbers();
+        test.phisOfEntry();
+        test.phisBehindChanges();
         test.noSlotsWhereAllFit();
         test.registersForInnermostLoop();
         test.expect.due("some programs need slots", test.withSlots > 100, true);
@@ -56,11 +63,14 @@ public final class StagesTest {
     private void draw(Random random) {
         int blocks = 1 + random.nextInt(10);
         Drawer drawer = new Drawer(random, 2 + random.nextInt(9), blocks);
+        told.clear();
         begin(blocks);
         for (int block = 0; block < blocks; block++) {
             for (int i = random.nextInt(13); i > 0; i--) {
                 Drawer.Op op = drawer.op(block);
-                mill.op(block, op.kind(), op.d(), op.a(), op.b());
+                if (mill.op(block, op.kind(), op.d(), op.a(), op.b())) {
+                    told.add(op);
+                }
             }
             Drawer.End last = drawer.end(block);
             if (last.how() == Drawer.JUMP) {
@@ -113,6 +123,18 @@ public final class StagesTest {
             moves += to[section] - from[section];
         }
         return moves;
+    }
+
+    private void lookAtStage0() throws ReflectiveOperationException {
+        make(0, 2);
+        expect.due("as many operations as told", length(), told.size());
+        for (int at = 0; at < told.size(); at++) {
+            Drawer.Op op = told.get(at);
+            boolean there = from[op.block()] <= at && at < to[op.block()];
+            boolean same = kind[at] == op.kind() && d[at] == op.d() && a[at] == op.a() && b[at] == op.b();
+            expect.due("operation " + at + " stands as told", there && same, true);
+        }
+        expect.due("nothing along edges", phiMoves(), 0);
     }
 
     private void lookAtStage1() throws ReflectiveOperationException {
@@ -243,6 +265,36 @@ public final class StagesTest {
         expect.due("what it writes is known", a[0], 16);
         expect.due("where it writes is known", b[0], 4);
         expect.due("the end is known", endIsNumber[3] && end[3] == 4, true);
+    }
+
+    /** A temporary that begins with 0 and goes round the entry, but never becomes anything. */
+    private void phisOfEntry() throws ReflectiveOperationException {
+        begin(2);
+        mill.op(0, 18, 3, 1, 0);
+        mill.branch(0, 3, 0, 1);
+        make(1, 2);
+        expect.due("stage 1 calls with the phi", (form[0] & A_IS_NUMBER) != 0, false);
+        make(2, 2);
+        expect.due("stage 2 calls with 0", (form[0] & A_IS_NUMBER) != 0 && a[0] == 0, true);
+    }
+
+    /** What two blocks bring to a third differs, until one of them no longer goes there. */
+    private void phisBehindChanges() throws ReflectiveOperationException {
+        begin(5);
+        mill.branch(0, 0, 1, 2);
+        mill.op(1, 0, 5, 4, 0);
+        mill.jump(1, 3);
+        mill.op(2, 0, 5, 6, 0);
+        mill.jump(2, 3);
+        mill.op(3, 1, 5, 5, 0);
+        mill.branch(3, 5, 3, 4);
+        mill.ret(4, 5);
+        make(2, 2);
+        expect.due("a phi of 4 and 6", phiMoves(), 2);
+        mill.ret(2, 5);
+        make(2, 2);
+        expect.due("a phi of 4 alone is gone", phiMoves(), 0);
+        expect.due("and its end is known", endIsNumber[3] && end[3] == 4, true);
     }
 
     /** Three values are live at most. */
