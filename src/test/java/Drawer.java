@@ -1,3 +1,5 @@
+import java.util.ArrayList;
+import java.util.List;
 import java.util.Random;
 
 /** Draws operations and ends of programs: mostly such as are taken, now and then a wrong one. */
@@ -7,9 +9,36 @@ final class Drawer {
     static final int RET = 2;
 
     record Op(int block, int kind, int d, int a, int b) {
+        boolean tell(ValueMill mill) {
+            return mill.op(block, kind, d, a, b);
+        }
     }
 
     record End(int how, int block, int t, int yes, int no) {
+        boolean tell(ValueMill mill) {
+            return switch (how) {
+                case JUMP -> mill.jump(block, yes);
+                case BRANCH -> mill.branch(block, t, yes, no);
+                default -> mill.ret(block, t);
+            };
+        }
+    }
+
+    /** A whole program that can be told again and again. */
+    record Plan(int blocks, List<Op> ops, List<End> ends, int[] words) {
+        ValueMill told() {
+            ValueMill mill = Programs.blocks(blocks);
+            for (Op op : ops) {
+                op.tell(mill);
+            }
+            for (End end : ends) {
+                end.tell(mill);
+            }
+            for (int i = 0; i < words.length; i++) {
+                mill.memory(i, words[i]);
+            }
+            return mill;
+        }
     }
 
     private final Random random;
@@ -20,6 +49,24 @@ final class Drawer {
         this.random = random;
         this.temps = temps;
         this.blocks = blocks;
+    }
+
+    static Plan plan(Random random) {
+        int blocks = 1 + random.nextInt(10);
+        Drawer drawer = new Drawer(random, 2 + random.nextInt(9), blocks);
+        List<Op> ops = new ArrayList<>();
+        List<End> ends = new ArrayList<>();
+        for (int block = 0; block < blocks; block++) {
+            for (int i = random.nextInt(13); i > 0; i--) {
+                ops.add(drawer.op(block));
+            }
+            ends.add(drawer.end(block));
+        }
+        int[] words = new int[4];
+        for (int i = 0; i < words.length; i++) {
+            words[i] = drawer.number();
+        }
+        return new Plan(blocks, ops, ends, words);
     }
 
     Op op(int block) {

@@ -1,25 +1,27 @@
 import java.util.Arrays;
-import java.util.Set;
-import java.util.TreeSet;
+import java.util.Map;
+import java.util.TreeMap;
 
 /** Counts the answers that are not as due; a test's main ends with {@link #finish()}. */
 final class Expect {
-    private final Set<String> sentences = new TreeSet<>();
-    private String sentence = "";
+    private final Map<String, int[]> askedByPiece = new TreeMap<>();
+    private String about = "";
+    private int[] askedHere = new int[1];
     private int wrong;
     private int asked;
 
-    /** The sentence of the document that the answers from here on are about. */
-    void about(String newSentence) {
-        sentence = "\"" + newSentence + "\": ";
-        sentences.add(newSentence);
+    /** The piece of the document, word for word, that the answers from here on are about. */
+    void about(String piece) {
+        about = "\"" + piece + "\": ";
+        askedHere = askedByPiece.computeIfAbsent(piece, added -> new int[1]);
     }
 
     void due(String call, long got, long want) {
         asked++;
+        askedHere[0]++;
         if (got != want) {
             wrong++;
-            System.out.println(sentence + call + " answered " + got + ", due is " + want);
+            System.out.println(about + call + " answered " + got + ", due is " + want);
         }
     }
 
@@ -38,8 +40,14 @@ final class Expect {
     }
 
     void finish() {
-        String of = sentences.isEmpty() ? "" : " about " + sentences.size() + " sentences";
-        System.out.println(asked + " answers asked for" + of + ", " + wrong + " not as due");
+        for (Map.Entry<String, int[]> piece : askedByPiece.entrySet()) {
+            if (piece.getValue()[0] == 0) {
+                wrong++;
+                System.out.println("no answer was asked for about \"" + piece.getKey() + "\"");
+            }
+        }
+        String pieces = askedByPiece.isEmpty() ? "" : " (pieces of the document: " + askedByPiece.size() + ")";
+        System.out.println(asked + " answers asked for" + pieces + ", " + wrong + " not as due");
         if (wrong != 0 || asked == 0) {
             System.exit(1);
         }

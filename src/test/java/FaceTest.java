@@ -1,9 +1,13 @@
+import java.io.IOException;
 import java.lang.reflect.Constructor;
 import java.lang.reflect.Field;
 import java.lang.reflect.Method;
 import java.lang.reflect.Modifier;
+import java.nio.file.Files;
 import java.util.Set;
 import java.util.TreeSet;
+import java.util.regex.Matcher;
+import java.util.regex.Pattern;
 
 /** The face is the document's and no more, and no private method bears one of its names. */
 public final class FaceTest {
@@ -13,9 +17,12 @@ public final class FaceTest {
             + "int nearest(int);boolean frontier(int,int);boolean live(int,int);boolean phi(int,int);"
             + "int depth(int)";
 
-    public static void main(String[] args) {
+    public static void main(String[] args) throws IOException {
         Expect expect = new Expect();
         Set<String> due = new TreeSet<>(Set.of(FACE.split(";")));
+        if (Files.isReadable(Checkout.DOCUMENT)) {
+            expect.due("the document has this face", faceIn(Files.readString(Checkout.DOCUMENT)).equals(due), true);
+        }
         Set<String> names = new TreeSet<>();
         Set<String> found = new TreeSet<>();
         for (Method method : ValueMill.class.getDeclaredMethods()) {
@@ -43,6 +50,15 @@ public final class FaceTest {
         int modifiers = ValueMill.class.getModifiers();
         expect.due("public and final", Modifier.isPublic(modifiers) && Modifier.isFinal(modifiers), true);
         expect.finish();
+    }
+
+    private static Set<String> faceIn(String document) {
+        Set<String> found = new TreeSet<>();
+        Matcher method = Pattern.compile("public (\\w+ \\w+)\\((.*)\\);").matcher(document);
+        while (method.find()) {
+            found.add(method.group(1) + "(" + method.group(2).replaceAll("(\\w+) \\w+", "$1").replace(" ", "") + ")");
+        }
+        return found;
     }
 
     private static String written(Method method) {

@@ -101,7 +101,7 @@ public final class KindsTest {
     }
 
     private void overAndRest() {
-        e.about("5 a over b, 6 what that leaves, as Java's ints do them");
+        e.about("5 a over b, 6 what that leaves, as Java's ints do them (but see DIVISION)");
         makes(5, 7, 2, 3);
         makes(5, -7, 2, -3);
         makes(5, 7, -2, -3);
@@ -268,7 +268,7 @@ public final class KindsTest {
     }
 
     private void read(int address, int[] stage, boolean known) {
-        e.about("16 d becomes the word of the memory whose number a has");
+        e.about("16 d becomes the word of the memory whose number a has (b is 0)");
         ValueMill x = withAddress(address, known);
         x.op(0, 16, 3, 3, 0);
         x.op(0, 18, 4, 3, 1);
@@ -279,7 +279,7 @@ public final class KindsTest {
     }
 
     private void write(int address, int[] stage, boolean known) {
-        e.about("17 the word whose number b has becomes a");
+        e.about("17 the word whose number b has becomes a (d is 0)");
         ValueMill x = withAddress(address, known);
         x.op(0, 0, 4, LEAST, 0);
         x.op(0, 17, 0, 4, 3);
@@ -295,7 +295,7 @@ public final class KindsTest {
     }
 
     private void callsWrap() {
-        e.about("18: d becomes a * 31 + b + 7 * how many calls there were before in this run");
+        e.about("with a: d becomes a * 31 + b + 7 * how many calls there were before in this run");
         for (int a : EDGES) {
             for (int[] stage : STAGES) {
                 ValueMill x = Programs.blocks(1);
@@ -324,7 +324,7 @@ public final class KindsTest {
 
     /** Behind 200 calls their count goes on, though what they were is no longer kept. */
     private void callsGoOn() {
-        e.about("7 * how many calls there were before in this run (more than 200, too)");
+        e.about("7 * how many calls there were before in this run");
         for (int[] stage : STAGES) {
             ValueMill x = Programs.blocks(1);
             for (int i = 0; i < 11; i++) {

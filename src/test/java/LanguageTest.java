@@ -4,18 +4,23 @@ import java.lang.reflect.Field;
 import java.lang.reflect.Method;
 import java.lang.reflect.Modifier;
 import java.nio.file.Files;
-import java.nio.file.Path;
 import java.util.ArrayList;
 import java.util.List;
+import java.util.Set;
 import java.util.regex.Matcher;
 import java.util.regex.Pattern;
 
 /** Those rules of LANGUAGE.md that can be read off the source and the class. */
 public final class LanguageTest {
-    private static final String[] WORDS_LEFT_OUT = {
-        "try", "catch", "throw", "throws", "finally", "synchronized", "assert", "protected", "package", "volatile",
-        "while", "double", "float", "instanceof", "System\\.(?!arraycopy)", "Thread", "Random", "Object", "->", "::",
+    /** What rules 1, 2, 4, 5, 6 and 13 leave out, wherever it stands in code. */
+    private static final String[] LEFT_OUT = {
+        "\\bpackage\\b", "\\bprotected\\b", "::", "^(?! *(case|default)\\b).*->", "\\bstatic \\{",
+        "\\bfinally\\b", "\\bsynchronized\\b", "\\bassert\\b", "\\btry \\(", "\\bSystem\\.(?!arraycopy\\b)",
+        "\\bObject\\b", "\\bThread\\b", "\\bRandom\\b", "Exact\\(",
     };
+    private static final String IMPORTS = "java\\.util\\.(Arrays|ArrayList|List|Iterator|NoSuchElementException)";
+    private static final Set<Class<?>> CONSTANTS = Set.of(int.class, long.class, boolean.class, char.class,
+            String.class, int[].class, long[].class, char[].class, byte[].class);
     private static final int MOST_LINES = 60;
     private static final int MOST_PARAMETERS = 7;
     private static final int MOST_CLASSES = 12;
@@ -23,15 +28,14 @@ public final class LanguageTest {
 
     public static void main(String[] args) throws IOException {
         Expect expect = new Expect();
-        String place = System.getProperty("valuemill.source", "src/main/java/ValueMill.java");
-        String source = Files.readString(Path.of(place)).replaceAll("(?s)/\\*.*?\\*/|//[^\n]*", "");
-        for (String word : WORDS_LEFT_OUT) {
-            String alone = Character.isLetter(word.charAt(0)) ? "\\b" + word + (word.endsWith(")") ? "" : "\\b") : word;
-            expect.due(word + " is left out", Pattern.compile(alone).matcher(source).find(), false);
+        String source = Files.readString(Checkout.SOURCE).replaceAll("(?s)/\\*.*?\\*/|//[^\n]*", "");
+        for (String left : LEFT_OUT) {
+            Matcher found = Pattern.compile(left, Pattern.MULTILINE).matcher(source);
+            expect.due(left + " is left out", found.find(), false);
         }
         Matcher imports = Pattern.compile("import ([^;]*);").matcher(source);
         while (imports.find()) {
-            expect.due("import " + imports.group(1), imports.group(1).equals("java.util.Arrays"), true);
+            expect.due("import " + imports.group(1), imports.group(1).matches(IMPORTS), true);
         }
         lookAtMethods(expect, source);
         List<Class<?>> classes = new ArrayList<>(List.of(ValueMill.class.getDeclaredClasses()));
@@ -71,10 +75,18 @@ public final class LanguageTest {
         int fields = 0;
         for (Field field : owner.getDeclaredFields()) {
             boolean isStatic = Modifier.isStatic(field.getModifiers());
-            boolean isConstant = isStatic && Modifier.isFinal(field.getModifiers()) && field.getType() == int.class;
-            expect.due(field + " is no static state", isStatic, isConstant);
+            if (isStatic && !field.isSynthetic()) {
+                expect.due(field + " is a constant", isConstant(field), true);
+            }
             fields += isStatic ? 0 : 1;
         }
         expect.due(owner + " has few fields", fields <= MOST_FIELDS, true);
+    }
+
+    /** Or the constants of an enum, or all of them kept once. */
+    private static boolean isConstant(Field field) {
+        Class<?> type = field.getType();
+        boolean ofEnum = type.isEnum() || type.isArray() && type.getComponentType().isEnum();
+        return Modifier.isFinal(field.getModifiers()) && (ofEnum || CONSTANTS.contains(type));
     }
 }

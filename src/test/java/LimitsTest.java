@@ -23,6 +23,7 @@ public final class LimitsTest {
         test.noBlocks();
         test.memoryOfZeros();
         test.tenBlocks();
+        test.entryIsTheFirst();
         test.blockIsThere();
         test.opKinds();
         test.opD();
@@ -99,7 +100,7 @@ public final class LimitsTest {
     }
 
     private void noBlocks() {
-        e.about("A new object: No blocks");
+        e.about("No blocks");
         e.due("order", new ValueMill().order(0), NONE);
         e.due("depth", new ValueMill().depth(0), NONE);
         e.due("nearest", new ValueMill().nearest(0), NONE);
@@ -115,7 +116,7 @@ public final class LimitsTest {
     }
 
     private void memoryOfZeros() {
-        e.about("A new object: memory of 0");
+        e.about("with what was told of them (0 at first)");
         for (int stage = 0; stage <= 3; stage++) {
             ValueMill x = Programs.blocks(1);
             x.run(stage, 2, 1);
@@ -126,7 +127,7 @@ public final class LimitsTest {
     }
 
     private void tenBlocks() {
-        e.about("Answers its number; NONE when there are 10");
+        e.about("One more block. Answers its number; NONE when there are 10.");
         ValueMill x = new ValueMill();
         for (int i = 0; i < 10; i++) {
             e.due("block " + i, x.block(), i);
@@ -137,22 +138,39 @@ public final class LimitsTest {
         refused("block() twice", Programs::full, y -> y.block() != NONE || y.block() != NONE);
     }
 
+    private void entryIsTheFirst() {
+        e.about("BLOCKS are numbered from 0 on, 10 at most; block 0 is the ENTRY.");
+        ValueMill x = new ValueMill();
+        for (int block = 0; block < 10; block++) {
+            e.due("the next number", x.block(), block);
+            x.op(block, 0, 0, 100 + block, 0);
+            x.jump(block, 0);
+            x.ret(0, 0);
+            for (int stage = 0; stage <= 3; stage++) {
+                x.run(stage, 2, 1);
+                e.due("begins at block 0 of " + (block + 1), x.value(), 100);
+            }
+            e.due("first in the order", x.order(0), 0);
+            e.due("the others are dead", x.order(1), NONE);
+        }
+    }
+
     private void blockIsThere() {
-        e.about("op: false when there is no such block");
+        e.about("One more operation of a block. Answers true; false when there is no such block");
         blockLimits("op in block", (x, v) -> x.op(v, 0, 1, 1, 0));
-        e.about("jump: false when there are none such");
+        e.about("A block's end goes to another one. Answers true; false when there are none such.");
         blockLimits("jump from", (x, v) -> x.jump(v, 0));
         blockLimits("jump to", (x, v) -> x.jump(0, v));
-        e.about("branch: Answers true, or false");
+        e.about("A block's end goes by a temporary. Answers true, or false.");
         blockLimits("branch from", (x, v) -> x.branch(v, 1, 0, 0));
         blockLimits("branch yes", (x, v) -> x.branch(0, 1, v, 0));
         blockLimits("branch no", (x, v) -> x.branch(0, 1, 0, v));
-        e.about("ret: Answers true, or false");
+        e.about("A block's end returns a temporary. Answers true, or false.");
         blockLimits("ret in", (x, v) -> x.ret(v, 1));
     }
 
     private void opKinds() {
-        e.about("op: false when kind is not such");
+        e.about("or kind, d, a, b are not such");
         limits("kind", 0, 18, (x, v) -> x.op(0, v, 0, 0, 0));
         for (int kind = 0; kind <= 18; kind++) {
             int each = kind;
@@ -161,7 +179,7 @@ public final class LimitsTest {
     }
 
     private void opD() {
-        e.about("op: false when d is not such");
+        e.about("d, a, b are temporaries, where nothing else is said");
         for (int kind = 0; kind <= 18; kind++) {
             int each = kind;
             int b = isTold0(kind) ? 0 : 1;
@@ -170,7 +188,7 @@ public final class LimitsTest {
     }
 
     private void opA() {
-        e.about("op: false when a is not such");
+        e.about("d, a, b are temporaries, where nothing else is said");
         for (int kind = 1; kind <= 18; kind++) {
             int each = kind;
             int d = kind == 17 ? 0 : 1;
@@ -180,7 +198,7 @@ public final class LimitsTest {
     }
 
     private void opB() {
-        e.about("op: false when b is not such");
+        e.about("d, a, b are temporaries, where nothing else is said");
         for (int kind = 0; kind <= 18; kind++) {
             int each = kind;
             int d = kind == 17 ? 0 : 1;
@@ -225,7 +243,7 @@ public final class LimitsTest {
     }
 
     private void opTwelve() {
-        e.about("op: false when it has 12");
+        e.about("it has 12");
         for (int block = 0; block < 10; block++) {
             int each = block;
             Supplier<ValueMill> full = () -> withTwelve(each);
@@ -255,7 +273,7 @@ public final class LimitsTest {
     }
 
     private void opFull() {
-        e.about("A block has up to 12 operations, 10 blocks at most");
+        e.about("A block has up to 12 OPERATIONS");
         for (int block = 0; block < 10; block++) {
             int each = block;
             e.due("no room in block " + block, View.roomIn(Programs.full(), block), 0);
@@ -280,7 +298,7 @@ public final class LimitsTest {
     }
 
     private void endAtFirst() {
-        e.about("at first it returns temporary 0");
+        e.about("or returns one (at first it returns temporary 0)");
         for (int block = 0; block < 10; block++) {
             ValueMill x = Programs.blocks(10);
             x.op(block, 0, 0, -8, 0);
@@ -297,7 +315,7 @@ public final class LimitsTest {
     }
 
     private void jumpEnds() {
-        e.about("jump: A block's end goes to another one");
+        e.about("and an END: it goes to a block");
         for (int to = 1; to < 10; to++) {
             ValueMill x = Programs.blocks(10);
             x.op(to, 0, 0, 10 + to, 0);
@@ -312,7 +330,7 @@ public final class LimitsTest {
     }
 
     private void branchEnds() {
-        e.about("branch: A block's end goes by a temporary");
+        e.about("or to one of two by a temporary");
         limits("branch by", 0, 9, (x, v) -> x.branch(0, v, 1, 2));
         taken("branch to itself", () -> Programs.blocks(1), x -> x.branch(0, 9, 0, 0));
         for (int t = 0; t < 10; t++) {
@@ -328,7 +346,7 @@ public final class LimitsTest {
                 }
             }
         }
-        e.about("goes to the first block if it is not 0, else to the second");
+        e.about("An end by a temporary goes to the first block if it is not 0, else to the second.");
         for (int shown : new int[] {LEAST, LEAST + 1, -1, 0, 1, 2, 65536, MOST}) {
             ValueMill x = Programs.blocks(3);
             x.memory(0, shown);
@@ -344,7 +362,7 @@ public final class LimitsTest {
     }
 
     private void retEnds() {
-        e.about("ret: A block's end returns a temporary");
+        e.about("or returns one (at first it returns temporary 0)");
         limits("ret of", 0, 9, (x, v) -> x.ret(0, v));
         for (int stage = 0; stage <= 3; stage++) {
             ValueMill x = Programs.blocks(2);
@@ -361,7 +379,7 @@ public final class LimitsTest {
     }
 
     private void memoryWords() {
-        e.about("memory: false when there is none such");
+        e.about("A word of the memory, at the beginning of runs. Answers true; false when there is none such.");
         limits("memory", 0, 31, (x, v) -> x.memory(v, 77));
         e.about("MEMORY are 32 words, 0 .. 31, with what was told of them");
         for (int stage = 0; stage <= 3; stage++) {
@@ -381,12 +399,12 @@ public final class LimitsTest {
     }
 
     private void runStages() {
-        e.about("Runs at a stage, 0 .. 3; NONE when these are not such");
+        e.about("Runs at a stage, 0 .. 3");
         limits("run at stage", 0, 3, (x, v) -> x.run(v, 2, 9) != NONE);
     }
 
     private void runRegisters() {
-        e.about("with so many registers (2 .. 8, at all stages)");
+        e.about("with so many registers (2 .. 8, at all stages");
         for (int stage = 0; stage <= 3; stage++) {
             int each = stage;
             limits("run at stage " + stage + " with registers", 2, 8, (x, v) -> x.run(each, v, 9) != NONE);
@@ -394,7 +412,7 @@ public final class LimitsTest {
     }
 
     private void runFuel() {
-        e.about("and fuel (0 .. 500)");
+        e.about("and fuel (0 .. 500");
         for (int stage = 0; stage <= 3; stage++) {
             int each = stage;
             limits("run at stage " + stage + " with fuel", 0, 500, (x, v) -> x.run(each, 2, v) != NONE);
@@ -402,7 +420,7 @@ public final class LimitsTest {
     }
 
     private void runWithoutBlock() {
-        e.about("run: NONE when there is no block");
+        e.about("NONE when there is no block, or these are not such.");
         for (int stage = 0; stage <= 3; stage++) {
             ValueMill x = new ValueMill();
             e.due("no block", x.run(stage, 2, 0), NONE);
@@ -413,7 +431,7 @@ public final class LimitsTest {
     }
 
     private void lastOf512() {
-        e.about("An object is used for at most 512 calls");
+        e.about("An object is used for at most 512 calls after it has been made");
         ValueMill x = Programs.blocks(2);
         x.op(0, 18, 0, 0, 1);
         x.jump(0, 0);

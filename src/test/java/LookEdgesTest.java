@@ -72,7 +72,7 @@ public final class LookEdgesTest {
     }
 
     private void orderOfNone() {
-        e.about("order: NONE when there is none such");
+        e.about("The k-th block of the order; NONE when there is none such.");
         order("no block", new ValueMill());
         ValueMill x = new ValueMill();
         x.block();
@@ -82,7 +82,7 @@ public final class LookEdgesTest {
     }
 
     private void orderLimits() {
-        e.about("The k-th block of the order");
+        e.about("The k-th block of the order; NONE when there is none such.");
         int[] all = {0, 1, 2, 3, 4, 5, 6, 7, 8, 9};
         for (int count = 1; count <= 10; count++) {
             order("a row of " + count, Programs.row(count), Arrays.copyOf(all, count));
@@ -126,7 +126,7 @@ public final class LookEdgesTest {
     }
 
     private void orderAnew() {
-        e.about("what is answered is of the program as it is now");
+        e.about("The k-th block of the order; NONE when there is none such.");
         ValueMill x = Programs.blocks(3);
         order("at first", x, 0);
         x.jump(0, 1);
@@ -146,7 +146,7 @@ public final class LookEdgesTest {
     }
 
     private void nearestOfNone() {
-        e.about("nearest: NONE when there is none, or no such block, or it is dead");
+        e.about("The nearest strict dominator; NONE when there is none, or no such block, or it is dead.");
         dueForNoBlock("no blocks: nearest", new ValueMill()::nearest, 0, NONE);
         for (int count = 1; count <= 10; count++) {
             ValueMill x = Programs.row(count);
@@ -193,7 +193,7 @@ public final class LookEdgesTest {
     }
 
     private void frontierOfNone() {
-        e.about("frontier: false when there are none such");
+        e.about("Whether c is in the frontier of a block (neither of them dead); false when there are none such.");
         ValueMill none = new ValueMill();
         ValueMill x = Programs.blocks(1);
         x.jump(0, 0);
@@ -211,7 +211,7 @@ public final class LookEdgesTest {
     }
 
     private void frontierOfDead() {
-        e.about("Whether c is in the frontier of a block (neither of them dead)");
+        e.about("Whether c is in the frontier of a block (neither of them dead); false when there are none such.");
         ValueMill x = Programs.diamond();
         due("of a dead one", c -> x.frontier(4, c));
         due("beside a dead one", c -> x.frontier(1, c), 3);
@@ -250,7 +250,8 @@ public final class LookEdgesTest {
     }
 
     private void liveOfNone() {
-        e.about("live: false when there are none such");
+        e.about("Whether a temporary is live in a block, be it dead or not (ways go along all edges); "
+                + "false when there are none such.");
         ValueMill none = new ValueMill();
         ValueMill x = Programs.blocks(1);
         for (int t = 0; t < 10; t++) {
@@ -266,7 +267,7 @@ public final class LookEdgesTest {
     }
 
     private void liveInDead() {
-        e.about("A temporary is LIVE in a block (a DEAD one, too); ways go along all edges");
+        e.about("A temporary is LIVE in a block (a DEAD one, too) if there is a way along edges");
         ValueMill x = Programs.blocks(4);
         x.ret(0, 1);
         x.jump(2, 3);
@@ -329,7 +330,7 @@ public final class LookEdgesTest {
     }
 
     private void liveAlongAll() {
-        e.about("A block REACHES another one along edges");
+        e.about("A temporary is LIVE in a block (a DEAD one, too) if there is a way along edges");
         ValueMill x = Programs.row(10);
         x.ret(9, 7);
         due("through all ten", block -> x.live(block, 7), 0, 1, 2, 3, 4, 5, 6, 7, 8, 9);
@@ -343,7 +344,7 @@ public final class LookEdgesTest {
     }
 
     private void phiOfNone() {
-        e.about("phi: likewise (false when there are none such)");
+        e.about("Whether a phi of a temporary stands in a block; likewise.");
         ValueMill none = new ValueMill();
         ValueMill x = Programs.blocks(1);
         for (int t = 0; t < 10; t++) {
@@ -370,7 +371,8 @@ public final class LookEdgesTest {
     }
 
     private void phiOfEntry() {
-        e.about("the frontiers of all blocks in which it becomes something, of the entry, and of its own");
+        e.about("which are in the least set that has the frontiers of all blocks in which it becomes "
+                + "something (that are not dead), of the entry, and of its own");
         ValueMill x = Programs.row(10);
         x.jump(9, 0);
         x.op(9, 1, 2, 3, 0);
@@ -401,7 +403,7 @@ public final class LookEdgesTest {
     }
 
     private void depthOfNone() {
-        e.about("depth: NONE when there is no such block");
+        e.about("How many loops a block is in; NONE when there is no such block, or it is dead.");
         dueForNoBlock("no blocks: depth", new ValueMill()::depth, 0, NONE);
         for (int count = 1; count <= 10; count++) {
             ValueMill x = Programs.row(count);
@@ -411,7 +413,7 @@ public final class LookEdgesTest {
     }
 
     private void depthOfDead() {
-        e.about("depth: NONE when it is dead");
+        e.about("How many loops a block is in; NONE when there is no such block, or it is dead.");
         ValueMill x = Programs.row(10);
         x.jump(9, 3);
         e.due("in the ring", x.depth(9), 1);
@@ -461,7 +463,7 @@ public final class LookEdgesTest {
     }
 
     private void depthOfTen() {
-        e.about("How many loops a block is in");
+        e.about("How many loops a block is in; NONE when there is no such block, or it is dead.");
         ValueMill x = Programs.blocks(10);
         x.jump(0, 1);
         for (int block = 1; block < 9; block++) {

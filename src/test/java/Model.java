@@ -1,6 +1,8 @@
 import java.util.ArrayList;
 import java.util.Arrays;
+import java.util.HashMap;
 import java.util.List;
+import java.util.Map;
 import java.util.TreeSet;
 
 /**
@@ -24,10 +26,14 @@ final class Model {
     int[] words = new int[32];
     List<Call> calls = new ArrayList<>();
 
+    /** What the entry reaches without one block, kept until an edge is told; -1 bars none. */
+    private final Map<Integer, TreeSet<Integer>> reachedWithout = new HashMap<>();
+
     int block() {
         if (ops.size() == 10) {
             return -1;
         }
+        reachedWithout.clear();
         ops.add(new ArrayList<>());
         ends.add(new int[] {0});
         return ops.size() - 1;
@@ -59,6 +65,7 @@ final class Model {
         if (!has(block) || !has(to)) {
             return false;
         }
+        reachedWithout.clear();
         ends.set(block, new int[] {-1, to});
         return true;
     }
@@ -67,6 +74,7 @@ final class Model {
         if (!has(block) || !temp(t) || !has(yes) || !has(no)) {
             return false;
         }
+        reachedWithout.clear();
         ends.set(block, new int[] {t, yes, no});
         return true;
     }
@@ -75,6 +83,7 @@ final class Model {
         if (!has(block) || !temp(t)) {
             return false;
         }
+        reachedWithout.clear();
         ends.set(block, new int[] {t});
         return true;
     }
@@ -194,8 +203,12 @@ final class Model {
         return found;
     }
 
+    private TreeSet<Integer> fromEntry(int barred) {
+        return reachedWithout.computeIfAbsent(barred, without -> reached(0, without));
+    }
+
     boolean alive(int block) {
-        return has(block) && reached(0, -1).contains(block);
+        return has(block) && fromEntry(-1).contains(block);
     }
 
     private void note(int block, TreeSet<Integer> seen, ArrayList<Integer> noted) {
@@ -217,7 +230,7 @@ final class Model {
     }
 
     boolean dominates(int one, int other) {
-        return alive(one) && alive(other) && !reached(0, one).contains(other);
+        return alive(one) && alive(other) && !fromEntry(one).contains(other);
     }
 
     int nearest(int block) {

@@ -49,6 +49,7 @@ public final class PromisesTest {
     }
 
     private void promise1NewObject() {
+        e.about("No blocks; memory of 0.");
         ValueMill x = new ValueMill();
         e.due("NONE", ValueMill.NONE, -1);
         e.due("new: run", x.run(0, 2, 10), NONE);
@@ -75,6 +76,7 @@ public final class PromisesTest {
     }
 
     private void promise2Block() {
+        e.about("One more block. Answers its number; NONE when there are 10.");
         ValueMill x = new ValueMill();
         for (int i = 0; i < 10; i++) {
             e.due("block " + i + " is not yet there", x.ret(i, 0), false);
@@ -87,6 +89,7 @@ public final class PromisesTest {
     }
 
     private void promise3OpTaken() {
+        e.about("One more operation of a block. Answers true");
         for (int kind = 0; kind <= 18; kind++) {
             ValueMill x = Programs.blocks(2);
             int d = kind == 17 ? 0 : 9;
@@ -102,6 +105,7 @@ public final class PromisesTest {
     }
 
     private void promise3OpRefused() {
+        e.about("false when there is no such block, it has 12, or kind, d, a, b are not such.");
         for (int kind = 0; kind <= 18; kind++) {
             ValueMill x = Programs.blocks(2);
             int d = kind == 17 ? 0 : 1;
@@ -130,6 +134,7 @@ public final class PromisesTest {
     }
 
     private void promise3OpTwelve() {
+        e.about("it has 12");
         ValueMill x = Programs.blocks(3);
         x.op(1, 0, 1, 1, 0);
         for (int i = 0; i < 11; i++) {
@@ -142,6 +147,7 @@ public final class PromisesTest {
     }
 
     private void promise4Jump() {
+        e.about("A block's end goes to another one. Answers true; false when there are none such.");
         ValueMill x = Programs.blocks(3);
         for (int wrong : new int[] {-1, 3, 10, LEAST, MOST}) {
             e.due("jump from " + wrong, x.jump(wrong, 1), false);
@@ -163,6 +169,7 @@ public final class PromisesTest {
     }
 
     private void promise5Branch() {
+        e.about("A block's end goes by a temporary. Answers true, or false.");
         ValueMill x = Programs.blocks(3);
         for (int wrong : new int[] {-1, 3, 10, LEAST, MOST}) {
             e.due("branch from " + wrong, x.branch(wrong, 1, 1, 1), false);
@@ -188,6 +195,7 @@ public final class PromisesTest {
     }
 
     private void promise6Ret() {
+        e.about("A block's end returns a temporary. Answers true, or false.");
         ValueMill x = Programs.blocks(2);
         x.op(0, 0, 0, 3, 0);
         x.op(0, 0, 9, 4, 0);
@@ -208,6 +216,7 @@ public final class PromisesTest {
     }
 
     private void promise7Memory() {
+        e.about("A word of the memory, at the beginning of runs. Answers true; false when there is none such.");
         ValueMill x = Programs.blocks(1);
         for (int wrong : new int[] {-1, 32, LEAST, MOST}) {
             e.due("memory " + wrong, x.memory(wrong, 1), false);
@@ -229,6 +238,7 @@ public final class PromisesTest {
     }
 
     private void promise8RunRefused() {
+        e.about("NONE when there is no block, or these are not such.");
         ValueMill x = Programs.blocks(1);
         x.op(0, 0, 1, 5, 0);
         x.op(0, 18, 2, 1, 3);
@@ -254,6 +264,7 @@ public final class PromisesTest {
     }
 
     private void promise8RunEndings() {
+        e.about("Answers how it ended: 0 returned, 1 DIVISION, 2 ADDRESS, 3 FUEL");
         ValueMill x = Programs.blocks(2);
         x.op(0, 0, 1, 31, 0);
         x.op(0, 0, 2, 9, 0);
@@ -302,6 +313,7 @@ public final class PromisesTest {
     }
 
     private void promise8RunFuel() {
+        e.about("blocks are entered, and fuel taken, at each stage as at stage 0");
         ValueMill x = Programs.countdown(4);
         everyRun("no fuel", x, 0, 3, 0);
         e.due("none entered", x.entered(), 0);
@@ -317,6 +329,7 @@ public final class PromisesTest {
 
     /** Values that change places on the way round: what edges carry must be carried at one time. */
     private void promise8RunSwaps() {
+        e.about("each stage does the same");
         ValueMill x = Programs.blocks(3);
         for (int t = 0; t < 8; t++) {
             x.op(0, 0, t, t + 1, 0);
@@ -356,6 +369,7 @@ public final class PromisesTest {
 
     /** As many rings as a block's operations can make, beside a count that goes round with them. */
     private void promise8RunFourSwaps() {
+        e.about("each stage does the same");
         ValueMill x = Programs.row(4);
         for (int t = 0; t < 8; t++) {
             x.op(0, 0, t, t + 1, 0);
@@ -383,6 +397,7 @@ public final class PromisesTest {
     }
 
     private void promise8RunAfterChanges() {
+        e.about("Runs at a stage, 0 .. 3");
         ValueMill x = Programs.blocks(1);
         x.op(0, 0, 0, 3, 0);
         for (int stage = 0; stage <= 3; stage++) {
@@ -407,6 +422,7 @@ public final class PromisesTest {
     }
 
     private void promise9Value() {
+        e.about("What the latest run returned; 0 when it did not, or there was none.");
         ValueMill x = Programs.blocks(2);
         e.due("before a run", x.value(), 0);
         x.op(0, 0, 1, -9, 0);
@@ -432,6 +448,7 @@ public final class PromisesTest {
     }
 
     private void promise10Entered() {
+        e.about("How many blocks it entered.");
         ValueMill x = Programs.countdown(3);
         e.due("before a run", x.entered(), 0);
         for (int stage = 0; stage <= 3; stage++) {
@@ -449,6 +466,7 @@ public final class PromisesTest {
     }
 
     private void promise11Word() {
+        e.about("Word i of the memory behind it; 0 when there is none such, or was no run.");
         ValueMill x = Programs.blocks(1);
         x.memory(4, 44);
         e.due("before a run", x.word(4), 0);
@@ -474,6 +492,7 @@ public final class PromisesTest {
     }
 
     private void promise12Calls() {
+        e.about("How many outer calls it made.");
         ValueMill x = Programs.blocks(1);
         e.due("before a run", x.calls(), 0);
         for (int i = 0; i < 12; i++) {
@@ -491,6 +510,8 @@ public final class PromisesTest {
     }
 
     private void promise13Call() {
+        e.about("Of its k-th outer call (of the first 200): what = 0 the number, 1 what it was called "
+                + "with, 2 what came of it; 0 when there is none such.");
         ValueMill x = Programs.blocks(2);
         e.due("before a run", x.call(0, 0), 0);
         x.op(0, 0, 1, MOST, 0);
@@ -537,6 +558,7 @@ public final class PromisesTest {
     }
 
     private void promise14Order() {
+        e.about("The k-th block of the order; NONE when there is none such.");
         order("one block", Programs.blocks(3), 0);
         order("diamond", Programs.diamond(), 0, 2, 1, 3);
         ValueMill x = Programs.diamond();
@@ -566,6 +588,7 @@ public final class PromisesTest {
     }
 
     private void promise15Nearest() {
+        e.about("The nearest strict dominator; NONE when there is none, or no such block, or it is dead.");
         nearest("dead blocks", Programs.blocks(3), NONE, NONE, NONE, NONE);
         nearest("diamond", Programs.diamond(), NONE, 0, 0, 0, NONE, NONE);
         nearest("nested", Programs.nested(), NONE, 0, 1, 2, 3, 4, NONE);
@@ -591,6 +614,7 @@ public final class PromisesTest {
     }
 
     private void promise16Frontier() {
+        e.about("Whether c is in the frontier of a block (neither of them dead); false when there are none such.");
         ValueMill x = Programs.diamond();
         frontier("diamond", x, 0);
         frontier("diamond", x, 1, 3);
@@ -627,6 +651,8 @@ public final class PromisesTest {
     }
 
     private void promise17Live() {
+        e.about("Whether a temporary is live in a block, be it dead or not (ways go along all edges); "
+                + "false when there are none such.");
         ValueMill x = Programs.diamond();
         x.op(1, 0, 5, 1, 0);
         x.ret(3, 5);
@@ -680,6 +706,7 @@ public final class PromisesTest {
     }
 
     private void promise18Phi() {
+        e.about("Whether a phi of a temporary stands in a block; likewise.");
         ValueMill x = Programs.diamond();
         phi("nowhere made", x, 0);
         x.op(1, 0, 5, 1, 0);
@@ -733,6 +760,7 @@ public final class PromisesTest {
     }
 
     private void promise19Depth() {
+        e.about("How many loops a block is in; NONE when there is no such block, or it is dead.");
         depth("diamond", Programs.diamond(), 0, 0, 0, 0, NONE, NONE);
         ValueMill x = Programs.nested();
         depth("nested", x, 0, 1, 2, 2, 1, 0, NONE);

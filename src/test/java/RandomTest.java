@@ -88,20 +88,17 @@ public final class RandomTest {
 
     private void addOp(int block) {
         Drawer.Op op = drawer.op(block);
-        due(op.toString(), mill.op(block, op.kind(), op.d(), op.a(), op.b()),
-                model.op(block, op.kind(), op.d(), op.a(), op.b()));
+        due(op.toString(), op.tell(mill), model.op(block, op.kind(), op.d(), op.a(), op.b()));
     }
 
     private void setEnd(int block) {
         Drawer.End end = drawer.end(block);
-        if (end.how() == Drawer.JUMP) {
-            due(end.toString(), mill.jump(block, end.yes()), model.jump(block, end.yes()));
-        } else if (end.how() == Drawer.BRANCH) {
-            due(end.toString(), mill.branch(block, end.t(), end.yes(), end.no()),
-                    model.branch(block, end.t(), end.yes(), end.no()));
-        } else {
-            due(end.toString(), mill.ret(block, end.t()), model.ret(block, end.t()));
-        }
+        boolean taken = switch (end.how()) {
+            case Drawer.JUMP -> model.jump(block, end.yes());
+            case Drawer.BRANCH -> model.branch(block, end.t(), end.yes(), end.no());
+            default -> model.ret(block, end.t());
+        };
+        due(end.toString(), end.tell(mill), taken);
     }
 
     private void change(int blocks) {

@@ -7,13 +7,14 @@ import java.util.Collections;
 import java.util.IdentityHashMap;
 import java.util.Set;
 
-/** How much of the room one object takes, and that its calls take no more of it. */
+/** How much of the room one object takes with all its calls. */
 public final class RoomTest {
     private static final int CALLS = 512;
-    private static final int MOST_OBJECTS = 600_000 / CALLS;
-    private static final int MOST_ELEMENTS = 7_300_000 / CALLS;
+    private static final int MOST_OBJECTS = 600_000;
+    private static final int MOST_ELEMENTS = 7_300_000;
+    private static final int BYTES_OF_OBJECT = 16;
+    private static final int BYTES_OF_ELEMENT = 4;
     private static final int TIMES = 2000;
-    private static final int LEAST_OBJECT = 16;
 
     private final Set<Object> seen = Collections.newSetFromMap(new IdentityHashMap<>());
     private final ArrayDeque<Object> open = new ArrayDeque<>();
@@ -25,16 +26,33 @@ public final class RoomTest {
         RoomTest room = new RoomTest();
         room.count(mill);
         System.out.println(room.seen.size() + " objects and arrays, " + room.elements + " fields and elements");
-        expect.due("even an object for each of 512 calls would fit", room.seen.size() <= MOST_OBJECTS, true);
-        expect.due("so would its elements", room.elements <= MOST_ELEMENTS, true);
+        long made = bytesOfTheDearest(mill);
+        expect.due("objects and arrays", room.seen.size() + made / BYTES_OF_OBJECT <= MOST_OBJECTS, true);
+        expect.due("fields and elements", room.elements + made / BYTES_OF_ELEMENT <= MOST_ELEMENTS, true);
+        if (Inside.isKnown()) {
+            // Asking makes some objects of its own, but far from one for each time.
+            expect.due("calls make nothing", bytesOfAll(mill) < TIMES * BYTES_OF_OBJECT, true);
+        }
+        expect.finish();
+    }
+
+    /** Runs in few registers, each behind a change, so that all must be made anew. */
+    private static long bytesOfTheDearest(ValueMill mill) {
+        long before = allocated();
+        for (int call = 0; call < CALLS; call += 2) {
+            mill.jump(9, call % 10);
+            mill.run(3, 2, 500);
+        }
+        return allocated() - before;
+    }
+
+    private static long bytesOfAll(ValueMill mill) {
         useAll(mill);
         long before = allocated();
         for (int time = 0; time < TIMES; time++) {
             useAll(mill);
         }
-        // Asking makes some objects of its own, but far from one for each time.
-        expect.due("calls make nothing", allocated() - before < TIMES * LEAST_OBJECT, true);
-        expect.finish();
+        return allocated() - before;
     }
 
     private static long allocated() {

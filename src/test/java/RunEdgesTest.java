@@ -163,7 +163,7 @@ public final class RunEdgesTest {
     }
 
     private void mostFuel() {
-        e.about("and fuel (0 .. 500)");
+        e.about("and fuel (0 .. 500");
         for (int[] stage : STAGES) {
             // Enters 3 + 2 * rounds, and one more where a block stands before the last.
             ValueMill x = Programs.countdown(248);
@@ -216,26 +216,31 @@ public final class RunEdgesTest {
     }
 
     private void endsAtOnce() {
-        e.about("5 and 6 end it: DIVISION; 16 and 17 with a word that there is not: ADDRESS");
+        e.about("5 and 6 with b 0, or a the least int and b -1, end it: DIVISION");
+        endsAtOnce(5, DIVISION);
+        endsAtOnce(6, DIVISION);
+        e.about("16 and 17 with a word that there is not: ADDRESS");
+        endsAtOnce(16, ADDRESS);
+        endsAtOnce(17, ADDRESS);
+    }
+
+    private void endsAtOnce(int kind, int ending) {
         for (int[] stage : STAGES) {
-            for (int kind : new int[] {5, 6, 16, 17}) {
-                int ending = kind < 16 ? DIVISION : ADDRESS;
-                for (int wrong : new int[] {-1, 32, LEAST, MOST}) {
-                    String what = "kind " + kind + " at stage " + stage[0];
-                    ValueMill x = withMiddle(kind, 2, 0, wrong);
-                    e.due(what, run(x, stage, 9), ending);
-                    due(what, x, ending, 0, 2, 1);
-                    e.due(what + ": word 0 as written before", x.word(0), 2 * 31 + 8);
-                    ValueMill y = withMiddle(kind, 2, 1, 31);
-                    e.due(what + " goes on", run(y, stage, 9), RETURNED);
-                    due(what + " goes on", y, RETURNED, 70 * 31 + 9 + 7, 3, 2);
-                }
+            for (int wrong : new int[] {-1, 32, LEAST, MOST}) {
+                String what = "kind " + kind + " at stage " + stage[0];
+                ValueMill x = withMiddle(kind, 2, 0, wrong);
+                e.due(what, run(x, stage, 9), ending);
+                due(what, x, ending, 0, 2, 1);
+                e.due(what + ": word 0 as written before", x.word(0), 2 * 31 + 8);
+                ValueMill y = withMiddle(kind, 2, 1, 31);
+                e.due(what + " goes on", run(y, stage, 9), RETURNED);
+                due(what + " goes on", y, RETURNED, 70 * 31 + 9 + 7, 3, 2);
             }
         }
     }
 
     private void endsThoughUnused() {
-        e.about("what ends a run ends it at each stage, though nothing takes what would come of it");
+        e.about("each stage does the same");
         for (int[] stage : STAGES) {
             for (int kind : new int[] {5, 6, 16}) {
                 ValueMill x = Programs.blocks(1);
@@ -250,7 +255,7 @@ public final class RunEdgesTest {
     }
 
     private void endsOnlyWhereGone() {
-        e.about("a run ends where it comes to what ends it, not where it goes by");
+        e.about("each stage does the same");
         for (int[] stage : STAGES) {
             ValueMill x = Programs.blocks(4);
             x.branch(0, 1, 1, 2);
@@ -268,7 +273,7 @@ public final class RunEdgesTest {
     }
 
     private void endsInALaterRound() {
-        e.about("5 and 6 with b 0 end it, in whatever round b is 0");
+        e.about("5 and 6 with b 0, or a the least int and b -1, end it: DIVISION");
         for (int[] stage : STAGES) {
             for (int kind = 5; kind <= 6; kind++) {
                 ValueMill x = Programs.countdown(5);
@@ -276,6 +281,9 @@ public final class RunEdgesTest {
                 e.due("1 over 4, 3, 2, 1, 0", run(x, stage, 100), DIVISION);
                 due("1 over 4, 3, 2, 1, 0", x, DIVISION, 0, 11, 5);
             }
+        }
+        e.about("16 and 17 with a word that there is not: ADDRESS");
+        for (int[] stage : STAGES) {
             ValueMill y = Programs.countdown(3);
             y.op(2, 17, 0, 2, 6);
             y.op(2, 0, 7, 16, 0);
@@ -288,7 +296,7 @@ public final class RunEdgesTest {
     }
 
     private void valueOfOtherEnds() {
-        e.about("What the latest run returned; 0 when it did not");
+        e.about("What the latest run returned; 0 when it did not, or there was none.");
         for (int[] stage : STAGES) {
             ValueMill x = Programs.blocks(1);
             x.op(0, 0, 0, -9, 0);
@@ -324,7 +332,7 @@ public final class RunEdgesTest {
     }
 
     private void nothingBeforeAny() {
-        e.about("What a run told is 0 before any");
+        e.about("it is 0 before any");
         int[] nothing = new int[View.TOLD.of(new ValueMill()).length];
         e.due("a new object", View.TOLD.of(new ValueMill()), nothing);
         e.due("a program", View.TOLD.of(Programs.busy()), nothing);
@@ -336,7 +344,7 @@ public final class RunEdgesTest {
     }
 
     private void nothingBehindRefused() {
-        e.about("A call that is refused changes nothing (a run before any)");
+        e.about("A call that is refused changes nothing");
         int[] nothing = new int[View.TOLD.of(new ValueMill()).length];
         int[][] wrong = {{-1, 2, 9}, {4, 2, 9}, {0, 1, 9}, {3, 9, 9}, {1, 2, -1}, {2, 2, 501}};
         for (int[] args : wrong) {
@@ -400,7 +408,7 @@ public final class RunEdgesTest {
     }
 
     private void wordLimits() {
-        e.about("word: 0 when there is none such, or was no run");
+        e.about("Word i of the memory behind it; 0 when there is none such, or was no run.");
         for (int[] stage : STAGES) {
             ValueMill x = Programs.blocks(1);
             for (int i = 0; i < 32; i++) {
@@ -433,7 +441,7 @@ public final class RunEdgesTest {
     }
 
     private void callsCounted() {
-        e.about("How many outer calls it made");
+        e.about("How many outer calls it made.");
         for (int[] stage : STAGES) {
             for (int calls : new int[] {0, 1, 2, 107, 108}) {
                 ValueMill x = calling(calls);
@@ -455,7 +463,7 @@ public final class RunEdgesTest {
 
     /** Rounds with one call each, whose number is 5 and which is called with the rounds left. */
     private void callLimits() {
-        e.about("Of its k-th outer call (of the first 200); 0 when there is none such");
+        e.about("Of its k-th outer call (of the first 200)");
         for (int[] stage : STAGES) {
             for (int calls : new int[] {1, 2, 199, 200, 201, 248}) {
                 ValueMill x = Programs.countdown(calls);
@@ -476,7 +484,7 @@ public final class RunEdgesTest {
                 }
             }
         }
-        e.about("what = 0 the number, 1 what it was called with, 2 what came of it");
+        e.about("what = 0 the number, 1 what it was called with, 2 what came of it; 0 when there is none such.");
         for (int what : new int[] {LEAST, -1, 3, 4, MOST}) {
             ValueMill x = Programs.countdown(200);
             x.run(0, 2, 500);
@@ -487,7 +495,7 @@ public final class RunEdgesTest {
     }
 
     private void callOfFewer() {
-        e.about("Of its k-th outer call: none of a run before it");
+        e.about("Of its k-th outer call (of the first 200)");
         for (int[] stage : STAGES) {
             ValueMill x = Programs.countdown(200);
             run(x, stage, 500);

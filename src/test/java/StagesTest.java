@@ -1,4 +1,3 @@
-import java.lang.reflect.Field;
 import java.util.ArrayList;
 import java.util.List;
 import java.util.Random;
@@ -35,6 +34,9 @@ public final class StagesTest {
     private int phisGone;
 
     public static void main(String[] args) throws ReflectiveOperationException {
+        if (!Inside.isKnown()) {
+            return;
+        }
         StagesTest test = new StagesTest();
         for (int seed = 0; seed < PROGRAMS && test.expect.wrong() < 20; seed++) {
             test.draw(new Random(seed));
@@ -61,51 +63,38 @@ public final class StagesTest {
     }
 
     private void draw(Random random) {
-        int blocks = 1 + random.nextInt(10);
-        Drawer drawer = new Drawer(random, 2 + random.nextInt(9), blocks);
+        Drawer.Plan plan = Drawer.plan(random);
         told.clear();
-        begin(blocks);
-        for (int block = 0; block < blocks; block++) {
-            for (int i = random.nextInt(13); i > 0; i--) {
-                Drawer.Op op = drawer.op(block);
-                if (mill.op(block, op.kind(), op.d(), op.a(), op.b())) {
-                    told.add(op);
-                }
+        mill = Programs.blocks(plan.blocks());
+        for (Drawer.Op op : plan.ops()) {
+            if (op.tell(mill)) {
+                told.add(op);
             }
-            Drawer.End last = drawer.end(block);
-            if (last.how() == Drawer.JUMP) {
-                mill.jump(block, last.yes());
-            } else if (last.how() == Drawer.BRANCH) {
-                mill.branch(block, last.t(), last.yes(), last.no());
-            }
+        }
+        for (Drawer.End last : plan.ends()) {
+            last.tell(mill);
         }
     }
 
     private void make(int stage, int registers) throws ReflectiveOperationException {
         mill.run(stage, registers, 3);
-        Object code = read(mill, "code");
-        from = (int[]) read(code, "from");
-        to = (int[]) read(code, "to");
-        kind = (int[]) read(code, "kind");
-        d = (int[]) read(code, "d");
-        a = (int[]) read(code, "a");
-        b = (int[]) read(code, "b");
-        form = (int[]) read(code, "form");
-        end = (int[]) read(code, "end");
-        endIsNumber = (boolean[]) read(code, "endIsNumber");
-        int length = (Integer) read(code, "length");
+        Object code = Inside.read(mill, "code");
+        from = (int[]) Inside.read(code, "from");
+        to = (int[]) Inside.read(code, "to");
+        kind = (int[]) Inside.read(code, "kind");
+        d = (int[]) Inside.read(code, "d");
+        a = (int[]) Inside.read(code, "a");
+        b = (int[]) Inside.read(code, "b");
+        form = (int[]) Inside.read(code, "form");
+        end = (int[]) Inside.read(code, "end");
+        endIsNumber = (boolean[]) Inside.read(code, "endIsNumber");
+        int length = (Integer) Inside.read(code, "length");
         longest = Math.max(longest, length);
         expect.due("the code fits its rows", length <= kind.length, true);
     }
 
-    private static Object read(Object owner, String name) throws ReflectiveOperationException {
-        Field field = owner.getClass().getDeclaredField(name);
-        field.setAccessible(true);
-        return field.get(owner);
-    }
-
     private int length() throws ReflectiveOperationException {
-        return (Integer) read(read(mill, "code"), "length");
+        return (Integer) Inside.read(Inside.read(mill, "code"), "length");
     }
 
     private int slotMoves(int section) {
@@ -126,6 +115,7 @@ public final class StagesTest {
     }
 
     private void lookAtStage0() throws ReflectiveOperationException {
+        expect.about("as they are");
         make(0, 2);
         expect.due("as many operations as told", length(), told.size());
         for (int at = 0; at < told.size(); at++) {
@@ -138,6 +128,7 @@ public final class StagesTest {
     }
 
     private void lookAtStage1() throws ReflectiveOperationException {
+        expect.about("with each value named once");
         make(1, 2);
         boolean[] made = new boolean[1000];
         for (int section = 0; section < BLOCKS; section++) {
@@ -158,6 +149,7 @@ public final class StagesTest {
     }
 
     private void lookAtStage2() throws ReflectiveOperationException {
+        expect.about("with copies and constants gone");
         int before = phiMoves();
         make(2, 2);
         phisGone += before - phiMoves();
@@ -177,6 +169,7 @@ public final class StagesTest {
     }
 
     private void lookAtStage3(int registers) throws ReflectiveOperationException {
+        expect.about("and in few registers");
         make(3, registers);
         boolean slots = false;
         for (int section = 0; section < from.length; section++) {
@@ -203,7 +196,7 @@ public final class StagesTest {
 
     /** Ten blocks of twelve operations over ten temporaries that all go round: the rows must hold it. */
     private void fullestProgram() throws ReflectiveOperationException {
-        begin(10);
+        mill = Programs.blocks(10);
         for (int block = 0; block < 10; block++) {
             for (int i = 0; i < 12; i++) {
                 boolean calls = block == 0 && i < 10;
@@ -218,16 +211,10 @@ public final class StagesTest {
         expect.due("the longest code leaves room", longest < kind.length, true);
     }
 
-    private void begin(int blocks) {
-        mill = new ValueMill();
-        for (int block = 0; block < blocks; block++) {
-            mill.block();
-        }
-    }
-
     /** Two nested loops that only hand a call's outcome round, by copies: nothing but the call stays. */
     private void phisThatAreCopies() throws ReflectiveOperationException {
-        begin(4);
+        expect.about("with copies and constants gone");
+        mill = Programs.blocks(4);
         mill.op(0, 18, 1, 0, 3);
         mill.op(0, 1, 2, 1, 0);
         mill.jump(0, 1);
@@ -247,7 +234,8 @@ public final class StagesTest {
 
     /** A join of equal numbers, and a loop that keeps one: all is known, and only the write stays. */
     private void phisThatAreNumbers() throws ReflectiveOperationException {
-        begin(5);
+        expect.about("with copies and constants gone");
+        mill = Programs.blocks(5);
         mill.branch(0, 9, 1, 2);
         mill.op(1, 0, 1, 4, 0);
         mill.jump(1, 3);
@@ -269,7 +257,8 @@ public final class StagesTest {
 
     /** A temporary that begins with 0 and goes round the entry, but never becomes anything. */
     private void phisOfEntry() throws ReflectiveOperationException {
-        begin(2);
+        expect.about("with copies and constants gone");
+        mill = Programs.blocks(2);
         mill.op(0, 18, 3, 1, 0);
         mill.branch(0, 3, 0, 1);
         make(1, 2);
@@ -280,7 +269,8 @@ public final class StagesTest {
 
     /** What two blocks bring to a third differs, until one of them no longer goes there. */
     private void phisBehindChanges() throws ReflectiveOperationException {
-        begin(5);
+        expect.about("with copies and constants gone");
+        mill = Programs.blocks(5);
         mill.branch(0, 0, 1, 2);
         mill.op(1, 0, 5, 4, 0);
         mill.jump(1, 3);
@@ -299,7 +289,8 @@ public final class StagesTest {
 
     /** Three values are live at most. */
     private void noSlotsWhereAllFit() throws ReflectiveOperationException {
-        begin(3);
+        expect.about("and in few registers");
+        mill = Programs.blocks(3);
         mill.op(0, 18, 1, 0, 3);
         mill.op(0, 18, 2, 0, 3);
         mill.op(0, 18, 3, 0, 3);
@@ -320,7 +311,8 @@ public final class StagesTest {
 
     /** The loop's own value gets the one register that is left, though others were there before it. */
     private void registersForInnermostLoop() throws ReflectiveOperationException {
-        begin(3);
+        expect.about("and in few registers");
+        mill = Programs.blocks(3);
         for (int t = 1; t <= 5; t++) {
             mill.op(0, 18, t, 0, t);
         }
