@@ -37,6 +37,7 @@ public final class LookEdgesTest {
         test.depthOfDead();
         test.depthOfItself();
         test.depthOfTen();
+        test.firstAndSecondEdge();
         test.twoEdgesToOne();
         test.e.finish();
     }
@@ -87,12 +88,7 @@ public final class LookEdgesTest {
         for (int count = 1; count <= 10; count++) {
             order("a row of " + count, Programs.row(count), Arrays.copyOf(all, count));
         }
-        ValueMill x = Programs.blocks(10);
-        x.jump(0, 9);
-        for (int block = 9; block > 1; block--) {
-            x.jump(block, block - 1);
-        }
-        order("a row from the last", x, 0, 9, 8, 7, 6, 5, 4, 3, 2, 1);
+        order("a row from the last", Programs.rowFromTheLast(), 0, 9, 8, 7, 6, 5, 4, 3, 2, 1);
     }
 
     private void orderOfDead() {
@@ -178,7 +174,13 @@ public final class LookEdgesTest {
     }
 
     private void nearestInRows() {
-        e.about("The NEAREST of a block's strict dominators is the one that all the others dominate");
+        e.about("One block DOMINATES another (neither is dead) if each way from the entry to that comes by it; "
+                + "STRICTLY if they differ. The NEAREST of a block's strict dominators is the one that all the "
+                + "others dominate.");
+        ValueMill down = Programs.rowFromTheLast();
+        for (int block = 1; block < 10; block++) {
+            e.due("in a row from the last", down.nearest(block), block == 9 ? 0 : block + 1);
+        }
         ValueMill x = Programs.row(10);
         for (int block = 1; block < 10; block++) {
             e.due("in a row", x.nearest(block), block - 1);
@@ -481,6 +483,25 @@ public final class LookEdgesTest {
         for (int block = 0; block < 10; block++) {
             e.due("one behind the other, block " + block, y.depth(block), 1);
         }
+    }
+
+    private void firstAndSecondEdge() {
+        e.about("Its EDGES: the first and the second block to which it can go (two, even if they are the same)");
+        ValueMill x = Programs.blocks(3);
+        x.op(1, 0, 0, 11, 0);
+        x.op(2, 0, 0, 12, 0);
+        x.branch(0, 4, 1, 2);
+        order("1 is the first", x, 0, 2, 1);
+        x.run(0, 2, 2);
+        e.due("2 is the second", x.value(), 12);
+        x.branch(0, 4, 2, 1);
+        order("2 is the first", x, 0, 1, 2);
+        x.run(0, 2, 2);
+        e.due("1 is the second", x.value(), 11);
+        x.jump(0, 2);
+        order("the first alone", x, 0, 2);
+        x.ret(0, 0);
+        order("none", x, 0);
     }
 
     private void twoEdgesToOne() {

@@ -51,6 +51,16 @@ final class Programs {
         return x;
     }
 
+    /** 0, and then all ten from the last to 1, in a row. */
+    static ValueMill rowFromTheLast() {
+        ValueMill x = blocks(10);
+        x.jump(0, 9);
+        for (int block = 9; block > 1; block--) {
+            x.jump(block, block - 1);
+        }
+        return x;
+    }
+
     /** 0: sets up; 1: asks; 2: one round with a call; 3: returns the rounds. Enters 3 + 2 * rounds. */
     static ValueMill countdown(int rounds) {
         ValueMill x = blocks(4);

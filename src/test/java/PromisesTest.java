@@ -599,6 +599,7 @@ public final class PromisesTest {
         ValueMill y = Programs.blocks(2);
         y.branch(0, 3, 1, 1);
         nearest("both edges to one", y, NONE, 0, NONE);
+        nearest("a row from the last", Programs.rowFromTheLast(), NONE, 2, 3, 4, 5, 6, 7, 8, 9, 0);
     }
 
     private void frontier(String what, ValueMill x, int block, int... due) {

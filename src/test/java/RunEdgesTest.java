@@ -372,7 +372,9 @@ public final class RunEdgesTest {
                 x.memory(31, 99);
             });
             stays("block", each, x -> x.block());
-            stays("a refused run", each, x -> x.run(4, 2, 9));
+            stays("a refused stage", each, x -> x.run(4, 2, 9));
+            stays("refused registers", each, x -> x.run(each, 9, 9));
+            stays("refused fuel", each, x -> x.run(each, 2, 501));
             stays("looking", each, x -> View.SHAPE.of(x));
             stays("asking for what is not there", each, x -> x.word(32 + x.call(3, 3)));
         }

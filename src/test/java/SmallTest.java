@@ -2,11 +2,13 @@ import java.util.ArrayList;
 import java.util.List;
 
 /**
- * Every {@link Small} program of up to three blocks, with the document's terms taken at their word: ways
- * are gone one by one, and the least set is what all such sets have in common.
+ * Every {@link Small} program of up to three blocks, and some of four, with the document's terms taken at
+ * their word: ways are gone one by one, and the least set is what all such sets have in common.
  */
 public final class SmallTest {
-    private static final int MOST_BLOCKS = 3;
+    private static final int MOST_BLOCKS = 4;
+    /** A prime, so that each end and each deed of each block comes up, with all of the others'. */
+    private static final int STEP_OF_FOUR = 4001;
 
     private final Expect e = new Expect();
     private Small program;
@@ -17,7 +19,7 @@ public final class SmallTest {
 
     public static void main(String[] args) {
         SmallTest test = new SmallTest();
-        for (int blocks = 1; blocks <= MOST_BLOCKS; blocks++) {
+        for (int blocks = 1; blocks < MOST_BLOCKS; blocks++) {
             for (int index = 0; index < Small.count(blocks) && test.e.wrong() < 20; index++) {
                 test.begin(Small.at(blocks, index));
                 if (index < Small.shapes(blocks)) {
@@ -25,6 +27,11 @@ public final class SmallTest {
                 }
                 test.lookAtTemporary();
             }
+        }
+        for (int index = 0; index < Small.count(MOST_BLOCKS) && test.e.wrong() < 20; index += STEP_OF_FOUR) {
+            test.begin(Small.at(MOST_BLOCKS, index));
+            test.lookAtShape();
+            test.lookAtTemporary();
         }
         test.e.finish();
     }

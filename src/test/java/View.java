@@ -28,9 +28,7 @@ enum View {
         int[] of(ValueMill x) {
             IntStream.Builder seen = IntStream.builder();
             seen.add(x.value()).add(x.entered()).add(x.calls());
-            for (int i = 0; i < 32; i++) {
-                seen.add(x.word(i));
-            }
+            addWords(seen, x);
             for (int k = 0; k < 20; k++) {
                 seen.add(x.call(k, 0)).add(x.call(k, 1)).add(x.call(k, 2));
             }
@@ -38,17 +36,17 @@ enum View {
         }
     },
 
-    /** What runs, and calls that add, answer from here on. */
+    /** What runs, and calls that add, answer from here on; the first run leaves the memory as told. */
     AHEAD {
         @Override
         int[] of(ValueMill x) {
             IntStream.Builder seen = IntStream.builder();
+            seen.add(x.run(0, 2, 0));
+            addWords(seen, x);
             for (int stage = 3; stage >= 0; stage--) {
                 seen.add(x.run(stage, 2, 40)).add(x.value()).add(x.entered()).add(x.calls());
             }
-            for (int i = 0; i < 32; i++) {
-                seen.add(x.word(i));
-            }
+            addWords(seen, x);
             for (int block = 0; block < 10; block++) {
                 seen.add(roomIn(x, block));
             }
@@ -61,6 +59,12 @@ enum View {
     };
 
     abstract int[] of(ValueMill x);
+
+    private static void addWords(IntStream.Builder seen, ValueMill x) {
+        for (int i = 0; i < 32; i++) {
+            seen.add(x.word(i));
+        }
+    }
 
     private static int bit(boolean answer) {
         return answer ? 1 : 0;
